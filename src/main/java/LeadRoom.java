@@ -38,7 +38,6 @@ public final class LeadRoom {
     private int tapeLength = 0;
     private int faultAt = NONE;
     private final StyleReader styleReader = new StyleReader(tape);
-    private final Style spareStyle = new Style();
     private final Part sparePart = new Part();
     private final Room room = new Room();
     private final Desk desk = new Desk();
@@ -121,15 +120,15 @@ public final class LeadRoom {
         if (minute < room.now || minute > LAST_MINUTE) {
             throw new IllegalArgumentException();
         }
-        faultAt = styleReader.readInto(spareStyle, length);
+        faultAt = styleReader.firstWrong(length);
         if (faultAt != NONE) {
             throw new IllegalArgumentException();
         }
         if (room.styleCount >= MOST_STYLES) {
             throw new UnsupportedOperationException();
         }
-        room.addStyle(spareStyle, minute);
-        return spareStyle.rules;
+        room.addStyle(styleReader.into, minute);
+        return styleReader.into.rules;
     }
 
     public int fault() {
@@ -784,6 +783,12 @@ public final class LeadRoom {
         return edition >= NONE && edition < desk.editions;
     }
 
+    private static void copyFlags(boolean[] from, boolean[] to) {
+        for (int i = 0; i < from.length && i < to.length; i++) {
+            to[i] = from[i];
+        }
+    }
+
     /** Looks for the first wrong byte of copy. */
     private static final class CopyReader {
         private CopyReader() {
@@ -862,7 +867,7 @@ public final class LeadRoom {
         void takeCopy(Part other) {
             System.arraycopy(other.signs, 0, signs, 0, signs.length);
             System.arraycopy(other.begin, 0, begin, 0, begin.length);
-            System.arraycopy(other.closing, 0, closing, 0, closing.length);
+            copyFlags(other.closing, closing);
             bits = other.bits;
             words = other.words;
         }
@@ -873,7 +878,7 @@ public final class LeadRoom {
             lines = other.lines;
         }
 
-        void begin(int itsFace, int itsDue) {
+        void empty(int itsFace, int itsDue) {
             bits = 0;
             words = 0;
             face = itsFace;
@@ -928,7 +933,7 @@ public final class LeadRoom {
 
         /** The copy of another PART, with a text in place of one of its WORDS. */
         void putWord(Part old, int word, byte[] text, int length) {
-            begin(old.face, old.due);
+            empty(old.face, old.due);
             int first = old.firstBit(word);
             addBits(old, 0, first);
             addText(text, 0, length);
@@ -1234,15 +1239,15 @@ public final class LeadRoom {
         private int wrong = NONE;
         /** From each byte on, and from the text's end, the first one that is no blank. */
         private final int[] inkFrom = new int[MOST_TAPE + 1];
-        private Style into = new Style();
+        /** What was read last, right up to the first wrong byte. */
+        final Style into = new Style();
 
         StyleReader(byte[] itsText) {
             text = itsText;
         }
 
         /** The first wrong byte of the text, or NONE. */
-        int readInto(Style style, int itsLength) {
-            into = style;
+        int firstWrong(int itsLength) {
             into.rules = 0;
             length = Math.min(itsLength, text.length);
             at = 0;
@@ -1609,10 +1614,10 @@ public final class LeadRoom {
 
         /** How many LINES BY HAND, or how many of them do not stand; NONE. */
         int byHand(boolean slack) {
+            int first = 0;
             int many = 0;
             int notStanding = 0;
-            int first = 0;
-            while (first < bits) {
+            while (first < bits && many < MOST_BITS) {
                 int last = longestFrom(first);
                 if (last == NONE) {
                     return NONE;
@@ -1651,7 +1656,7 @@ public final class LeadRoom {
         final int[] jobEnd = new int[MOST_JOBS];
         final boolean[] jobCorrected = new boolean[MOST_JOBS];
 
-        void begin(int n, int itsBack) {
+        void empty(int n, int itsBack) {
             for (int sign = 0; sign < SIGNS; sign++) {
                 brasses[sign] = n;
             }
@@ -1668,7 +1673,7 @@ public final class LeadRoom {
             System.arraycopy(other.jobPart, 0, jobPart, 0, jobPart.length);
             System.arraycopy(other.jobNext, 0, jobNext, 0, jobNext.length);
             System.arraycopy(other.jobEnd, 0, jobEnd, 0, jobEnd.length);
-            System.arraycopy(other.jobCorrected, 0, jobCorrected, 0, jobCorrected.length);
+            copyFlags(other.jobCorrected, jobCorrected);
             wayBack = other.wayBack;
             isBroken = other.isBroken;
             jobs = other.jobs;
@@ -1856,7 +1861,7 @@ public final class LeadRoom {
             for (int i = 0; i <= length && size < MOST_PARTS; i++) {
                 if (i == length || text[i] == '/') {
                     Part part = ownPart(MOST_PARTS * stories + size);
-                    part.begin(face, due);
+                    part.empty(face, due);
                     part.addText(text, from, i);
                     from = i + 1;
                     size++;
@@ -1875,7 +1880,7 @@ public final class LeadRoom {
         }
 
         int addMachine(int n, int back) {
-            ownMachine(machineCount).begin(n, back);
+            ownMachine(machineCount).empty(n, back);
             machineCount++;
             return machineCount - 1;
         }
