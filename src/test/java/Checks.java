@@ -72,20 +72,20 @@ final class Checks {
         tell(room, text.getBytes(java.nio.charset.StandardCharsets.ISO_8859_1));
     }
 
-    /** Puts a text on the TAPE, which has to be empty. */
     static void tell(LeadRoom room, byte[] text) {
-        for (int i = 0; i < text.length; i += 20) {
-            room.feed(word(text, i), word(text, i + 4), word(text, i + 8), word(text, i + 12), word(text, i + 16));
-        }
-        room.end(text.length);
+        tell(room, text, 0);
     }
 
-    private static int word(byte[] text, int from) {
-        int word = 0;
-        for (int i = from; i < from + 4; i++) {
-            word = word << 8 | (i < text.length ? text[i] & 255 : 0);
+    /** Puts a text on the TAPE, which has to be empty; what is cut off behind it is this byte. */
+    static void tell(LeadRoom room, byte[] text, int behind) {
+        for (int i = 0; i < text.length; i += 20) {
+            int[] words = new int[5];
+            for (int k = 0; k < 20; k++) {
+                words[k / 4] = words[k / 4] << 8 | (i + k < text.length ? text[i + k] : behind) & 255;
+            }
+            room.feed(words[0], words[1], words[2], words[3], words[4]);
         }
-        return word;
+        room.end(text.length);
     }
 
     static int story(LeadRoom room, int face, int due, String text) {

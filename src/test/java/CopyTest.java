@@ -10,6 +10,8 @@ public final class CopyTest extends Checked {
         wrongBytes();
         limitsOfCopy();
         tapeIsUsedUp();
+        cutTexts();
+        mostLetters();
         part();
         Checks.finish("CopyTest");
     }
@@ -200,11 +202,56 @@ public final class CopyTest extends Checked {
         same("P7 its first letter", 82, x.fault());
         Checks.tell(x, Checks.many("a", 40, "-") + "/" + Checks.many("a", 40, "-"));
         same("P5 40 bits twice", 3, x.story(0, 0));
-        StringBuilder full = new StringBuilder();
-        full.append(Checks.many("abcdefghijkl", 30, "-"));
-        same("P5 the tape holds 389", 389, full.length());
-        same("P5 30 bits of 12", 4, Checks.story(x, 0, 0, full.toString()));
+        String long30 = Checks.many("abcdefghijkl", 30, "-");
+        same("P5 the tape holds 389", 389, long30.length());
+        same("P5 30 bits of 12", 4, Checks.story(x, 0, 0, long30));
         same("P8 30 pieces", 30, x.part(20, 1));
+        Checks.tell(x, long30 + Checks.many(" ", 10, "") + "/");
+        refuses("P5 400 bytes, and more must come", ARGUMENT, () -> x.story(0, 0));
+        same("P7 the text's length", 400, x.fault());
+        same("P5 400 bytes", 5, Checks.story(x, 0, 0, long30 + Checks.many(" ", 9, "") + "/a"));
+        Checks.tell(x, long30 + Checks.many(" ", 10, "") + "?");
+        refuses("P5 the last of 400 bytes", ARGUMENT, () -> x.story(0, 0));
+        same("P7 that one", 399, x.fault());
+    }
+
+    /** What was on the TAPE behind the text is not read. */
+    private static void cutTexts() {
+        String[] texts = {"ab", "ab cd", "ab/cd", "ab-c", "ab ", "abcdefghijkl", Checks.many("a", 40, "-")};
+        for (String text : texts) {
+            for (char behind : "a-/ ?".toCharArray()) {
+                LeadRoom x = new LeadRoom();
+                Checks.tell(x, text.getBytes(java.nio.charset.StandardCharsets.ISO_8859_1), behind);
+                same("P3 '" + text + "' cut ahead of " + behind, 0, x.story(0, 0));
+                same("P5 a story", 1, x.count(1));
+            }
+        }
+        LeadRoom x = new LeadRoom();
+        Checks.tell(x, "ab-".getBytes(java.nio.charset.StandardCharsets.ISO_8859_1), 'c');
+        refuses("P3 a letter that was cut off", ARGUMENT, () -> x.story(0, 0));
+        same("P7 the text's length", 3, x.fault());
+    }
+
+    /** More letters than a TAPE holds: by corrections of copy that is not SET. */
+    private static void mostLetters() {
+        LeadRoom x = new LeadRoom();
+        x.machine(1, 0);
+        Checks.story(x, 0, 0, Checks.many("a", 20, " "));
+        for (int word = 0; word < 20; word++) {
+            same("P26 a longer word", 0, Checks.correct(x, 0, word, 0, "abcdefghijkl-mnopqrstuvwx"));
+        }
+        same("P8 40 pieces of 12", 40, x.part(0, 1));
+        same("P8 20 words", 20, x.part(0, 0));
+        Checks.style(x, 0, "measure 120; space 8 40");
+        for (int sign = 0; sign < 27; sign++) {
+            x.width(0, sign, 1);
+        }
+        // three words of 24 and two gaps of 8 are 88, four are 120
+        same("P10 five lines of four", 5, x.best(0, 0));
+        same("P10 no badness", 0, x.best(0, 1));
+        same("P11 the last one", 39, x.ends(0, 4));
+        x.width(0, 23, 2);
+        same("P4 the last letter is wider", 6, x.hand(0, false));
     }
 
     private static void tapeIsUsedUp() {

@@ -7,6 +7,8 @@ public final class ImageTest extends Checked {
         check();
         backWithoutImage();
         imageOfAll();
+        newThingsAfterBack();
+        smallThingsAreKept();
         tapeAndFaultStay();
         imageStays();
         count();
@@ -244,6 +246,106 @@ public final class ImageTest extends Checked {
         Checks.story(z, 1, 0, "a-b c");
         same("P8 another part 0", 2, z.part(0, 0));
         same("P8 not given", 0, z.part(0, 4));
+    }
+
+    /** After one went back, what comes anew has nothing of what was there. */
+    private static void newThingsAfterBack() {
+        LeadRoom x = new LeadRoom();
+        x.image();
+        Checks.style(x, 0, "measure 10; space 1 40; pay 5; close 0 at 0");
+        for (int sign = 0; sign < 27; sign++) {
+            x.width(0, sign, 5);
+        }
+        Checks.story(x, 1, 5, "a-b c / d");
+        Checks.story(x, 0, 5, "aa bb cc aaa");
+        Checks.story(x, 0, 5, "aa bb cc");
+        x.machine(1, 9);
+        x.machine(2, 9);
+        x.give(5, 0);
+        x.give(10, 1);
+        x.give(0, 0);
+        x.minutes(12);
+        x.give(1, 0);
+        x.broken(0, true);
+        x.slip(0, 0, 5);
+        x.read(0, 0);
+        x.read(1, 0);
+        x.pie(0);
+        x.pie(1);
+        x.carry(0, 1, 3);
+        x.again(10, 0, 1);
+        x.lock(0, 4);
+        x.edition();
+        x.ahead(NONE);
+        x.back();
+        for (int what = 0; what < 15; what++) {
+            same("P47 count(" + what + ")", 0, x.count(what));
+        }
+        Checks.style(x, 0, "measure 20; space 2 6");
+        Checks.story(x, 0, 9, "gh ij kl");
+        x.machine(40, 0);
+        int[] part = {3, 3, 0, 9, 0, NONE, 0, 0};
+        for (int what = 0; what < 8; what++) {
+            same("P8 a new part " + what, part[what], x.part(0, what));
+        }
+        refuses("P21 it is not set", STATE, () -> x.lies(0, 0));
+        refuses("P5 one part alone", INDEX, () -> x.part(1, 0));
+        int[] machine = {0, 0, 0, 0, 0, NONE};
+        for (int what = 0; what < 6; what++) {
+            same("P18 a new machine " + what, machine[what], x.runs(0, what));
+        }
+        same("P16 given", 1, x.give(0, 0));
+        x.minutes(2);
+        int[] slug = {0, 0, 1, 4, 0, 0, 0, 0, 0, 0};
+        for (int what = 0; what < 10; what++) {
+            same("P19 a new slug " + what, slug[what], x.slug(0, what));
+        }
+        same("P20 it says", "gh ij", Checks.said(x, 0));
+        same("P29 not marked", 0, x.proof(0) + x.proof(1) + x.proof(2));
+        same("P31 not told of", NONE, x.where(0, 600, 600));
+        same("P28 read", true, x.read(1, 0));
+        same("P22 right", NONE, x.judge(0));
+        same("P36 no page", 0, x.locked(0, 0));
+        same("P42 no pay", 0, x.pay(0, 0, 600));
+        same("P35 locked", 2, x.lock(0, 1));
+        same("P36 not late", 0, x.locked(0, 2));
+        same("P38 the first edition", 0, x.edition());
+        same("P37 of the new slugs", 1, x.stands(0, 0, 1));
+    }
+
+    /** What a MACHINE, a PART that is not SET, and a PAGE have is kept, too. */
+    private static void smallThingsAreKept() {
+        LeadRoom x = Rooms.singles("aa aa aa", "aaa", "bbb", "cc dd", "ee-ff");
+        Checks.style(x, 0, "measure 10; space 1 40; close 1 at 1");
+        x.machine(2, 1);
+        x.give(5, 0);
+        x.give(0, 0);
+        x.give(15, 0);
+        x.minutes(5);
+        same("P18 waited", 2, x.runs(0, 2));
+        same("P18 spiked", 1, x.runs(0, 3));
+        x.minutes(2);
+        x.lock(1, 1);
+        same("P36 late", 6, x.locked(1, 2));
+        x.carry(0, 3, 2);
+        x.image();
+        String before = all(x);
+        x.give(10, 0);
+        Checks.correct(x, 20, 0, 0, "gg-hh-ii");
+        x.minutes(5);
+        x.pie(0);
+        x.again(0, 0, 0);
+        x.minutes(4);
+        x.lock(1, 8);
+        x.carry(0, 4, 2);
+        x.carry(1, 4, 16);
+        same("P18 spiked once more", 2, x.runs(0, 3));
+        same("P36 another late", 15, x.locked(1, 2));
+        x.back();
+        same("P47 all is as it was", before, all(x));
+        same("P36 locked at", 7, x.locked(1, 1));
+        same("P8 pieces", 2, x.part(20, 1));
+        same("P31 told", 3, x.where(0, 600, 600));
     }
 
     private static void tapeAndFaultStay() {

@@ -9,6 +9,8 @@ public final class LinesTest extends Checked {
         hyphens();
         cost();
         reach();
+        reachByWhatIsReached();
+        fortyPieces();
         byHand();
         handIsLongestThatFits();
         styleOfNow();
@@ -181,6 +183,36 @@ public final class LinesTest extends Checked {
         // the third line does not stand, but the first two might end elsewhere
         LeadRoom w = room("measure 14; space 1 40", "a b c d eeee");
         same("P10 a b c is one, a b and c d are two", 4, w.best(0, 2));
+    }
+
+    private static void reachByWhatIsReached() {
+        // "a b" stands, "b cc" would stand, but it can not begin there
+        LeadRoom x = room("measure 14; space 1 40", "a b cc ffff");
+        same("P10 two pieces", 2, x.best(0, 2));
+        same("P10 no best", NONE, x.best(0, 0));
+    }
+
+    private static void fortyPieces() {
+        LeadRoom x = fives(Checks.many("a", 40, "-"));
+        same("P10 39 lines", 39, x.best(0, 0));
+        same("P10 reach 40", 40, x.best(0, 2));
+        same("P11 the last one", 39, x.ends(0, 38));
+        same("P11 the one ahead", 37, x.ends(0, 37));
+        same("P12 39 lines", 39, x.hand(0, false));
+        LeadRoom y = fives(Checks.many("a", 39, "-") + "-aa");
+        same("P10 40 lines", 40, y.best(0, 0));
+        same("P12 40 lines", 40, y.hand(0, false));
+        y.machine(40, 0);
+        y.give(0, 0);
+        y.minutes(40);
+        same("P17 40 slugs", 40, y.count(4));
+        same("P21 in the last place", 39, y.lies(0, 39));
+        same("P20 it says", "aa", Checks.said(y, 39));
+        same("P22 all right", NONE, y.judge(0));
+        // "ba-" is 15 wide, "b-" 10: the last line but one stays
+        same("P26 one line of forty", 40, Checks.correct(y, 0, 0, 0, Checks.many("b", 39, "-") + "-aa") + 1);
+        same("P48 39 in the pot", 39, y.count(7));
+        same("P21 the last one stays", 39, y.lies(0, 39));
     }
 
     private static void byHand() {

@@ -18,6 +18,7 @@ public final class MachinesTest extends Checked {
         runs();
         slug();
         says();
+        longLines();
         lies();
         judge();
         rightInTheFace();
@@ -363,6 +364,30 @@ public final class MachinesTest extends Checked {
         z.give(0, 0);
         z.minutes(1);
         same("P17 360 letters need too many", 1, z.runs(0, 3));
+    }
+
+    private static void longLines() {
+        LeadRoom x = new LeadRoom();
+        for (int sign = 0; sign < 27; sign++) {
+            x.width(0, sign, 1);
+        }
+        Checks.style(x, 0, "measure 200; space 1 40");
+        String text = Checks.many("abcdefghijkl mnopqrstuvwx", 5, " ");
+        Checks.story(x, 0, 0, "ab / " + text + " / " + Checks.many("abcdefgh", 4, " "));
+        x.machine(40, 0);
+        Rooms.castAll(x);
+        same("P20 a short one", "ab", Checks.said(x, 0));
+        same("P20 129 bytes", text, Checks.said(x, 1));
+        same("P20 35 bytes", "abcdefgh abcdefgh abcdefgh abcdefgh", Checks.said(x, 2));
+        same("P19 its letters", 120, x.slug(1, 3));
+        same("P22 right", NONE, x.judge(1));
+        same("P27 the last letter", true, x.slip(1, 119, 0));
+        same("P22 not right", 0, x.judge(1));
+        x.image();
+        x.slip(1, 119, 23);
+        x.back();
+        same("P47 wrong again", 1, x.slug(1, 8));
+        same("P20 its last byte", 'a', x.says(1, 128));
     }
 
     private static void lies() {

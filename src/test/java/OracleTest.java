@@ -51,8 +51,9 @@ public final class OracleTest {
 
     private boolean run() {
         boolean same = begin();
-        for (int i = 0; same && calls.size() < 500; i++) {
-            same = random.nextInt(60) == 0 ? lookOver() : step();
+        for (int i = 0; same && calls.size() < 600; i++) {
+            boolean goesBack = rich && i == 40 && random.nextInt(3) == 0;
+            same = goesBack ? goBackAndBeginAnew() : random.nextInt(60) == 0 ? lookOver() : step();
         }
         return same && lookOver();
     }
@@ -81,7 +82,7 @@ public final class OracleTest {
     }
 
     private boolean beginRich() {
-        boolean same = tellStyle("space 1 40; measure " + (full ? 60 : 24 + random.nextInt(60)) + "; pay " + random.nextInt(99)
+        boolean same = perhapsImage() && perhapsNarrow() && tellStyle("space 1 40; measure " + (full ? 60 : 24 + random.nextInt(60)) + "; pay " + random.nextInt(99)
             + "; part " + random.nextInt(60) + "; pay 7 if late; fat " + random.nextInt(20) + "; free if letters < "
             + random.nextInt(9) + "; close 0 at " + random.nextInt(40) + "; close 1 at " + random.nextInt(9));
         for (int i = 0; same && i < (full ? 24 : 3 + random.nextInt(5)); i++) {
@@ -93,6 +94,7 @@ public final class OracleTest {
             int back = random.nextInt(3);
             same = check("machine(" + n + ", " + back + ")", () -> room.machine(n, back), () -> model.machine(n, back));
         }
+        same = same && perhapsImage();
         for (int part = 0; same && part < 5 * model.s.stories.size(); part++) {
             int p = part;
             int machine = random.nextInt(Math.min(4, machines));
@@ -104,8 +106,30 @@ public final class OracleTest {
         return same && minutes(20 + random.nextInt(60)) && (!full || minutes(120));
     }
 
+    private boolean perhapsImage() {
+        return random.nextInt(3) > 0 || check("image()", () -> done(room::image), () -> done(model::image));
+    }
+
+    /** Now and then all letters are narrow, so that LINES say much. */
+    private boolean perhapsNarrow() {
+        boolean same = true;
+        boolean narrow = random.nextInt(3) == 0;
+        for (int sign = 0; same && narrow && sign < 2 * 27; sign++) {
+            int face = sign / 27;
+            int one = sign % 27;
+            int n = 1 + random.nextInt(2);
+            same = check("width(" + face + ", " + one + ", " + n + ")", () -> done(() -> room.width(face, one, n)),
+                () -> done(() -> model.width(face, one, n)));
+        }
+        return same;
+    }
+
     private boolean minutes(int n) {
         return check("minutes(" + n + ")", () -> room.minutes(n), () -> model.minutes(n));
+    }
+
+    private boolean goBackAndBeginAnew() {
+        return check("back()", () -> bit(room.back()), () -> bit(model.back())) && lookOver() && beginRich() && lookOver();
     }
 
     // ---- comparing
@@ -393,7 +417,8 @@ public final class OracleTest {
 
     private boolean tell(String text) {
         calls.add("tell '" + text + "'");
-        Checks.tell(room, text);
+        Checks.tell(room, text.getBytes(java.nio.charset.StandardCharsets.ISO_8859_1),
+            "a0; -/)".charAt(random.nextInt(7)));
         for (int i = 0; i < text.length(); i++) {
             model.tape.add((byte) text.charAt(i));
         }

@@ -8,6 +8,8 @@ public final class PagesTest extends Checked {
         fitNone();
         fitOfFour();
         fitRefuses();
+        otherStoriesNotSet();
+        fullPage();
         fits();
         lock();
         lockByColumns();
@@ -163,6 +165,43 @@ public final class PagesTest extends Checked {
         refuses("P33 five of twenty", ARGUMENT, () -> y.fit(0, 0xf8000));
         refuses("P33 the last of twenty is not set", STATE, () -> y.fit(0, 0x80000));
         refuses("P33 a 21st", INDEX, () -> y.fit(0, 0x100000));
+    }
+
+    private static void otherStoriesNotSet() {
+        LeadRoom x = Rooms.singles("aa", "bb", "cc");
+        x.machine(40, 0);
+        x.give(5, 0);
+        x.give(10, 0);
+        x.minutes(2);
+        same("P33 story 1", 1, x.fit(0, 2));
+        same("P33 story 2", 1, x.fit(0, 4));
+        same("P33 both", 2, x.fit(0, 6));
+        refuses("P33 story 0", STATE, () -> x.fit(0, 1));
+        LeadRoom y = Rooms.singles("aa", "bb", "cc");
+        y.machine(40, 0);
+        y.give(0, 0);
+        y.minutes(1);
+        same("P33 story 0", 1, y.fit(0, 1));
+        refuses("P33 not story 1", STATE, () -> y.fit(0, 2));
+        refuses("P33 not story 2", STATE, () -> y.fit(0, 5));
+    }
+
+    private static void fullPage() {
+        String part = Checks.many("aa", 20, " ");
+        String copy = part + "/" + part + "/" + part;
+        LeadRoom x = Rooms.singles(copy, copy, copy, "bb");
+        x.machine(40, 0);
+        Rooms.castAll(x);
+        same("P17 181 slugs", 181, x.count(4));
+        x.page(0, 3, 60);
+        same("P33 three columns of 60", 180, x.fit(0, 7));
+        same("P35 180 slugs", 180, x.lock(0, 7));
+        same("P37 the last one", 179, x.stands(0, NONE, 179));
+        x.edition();
+        same("P37 as the edition has it", 179, x.stands(0, 0, 179));
+        same("P35 with a fourth one parts are cut", 161, x.lock(0, 15));
+        same("P39 one is new", 1, x.changed(0, 0, NONE));
+        same("P39 twenty are away", 20, x.changed(0, NONE, 0));
     }
 
     private static void fits() {

@@ -10,6 +10,8 @@ public final class PlansTest extends Checked {
         leastByTheStyleOfNow();
         ahead();
         aheadWaits();
+        aheadOfWhatWasCast();
+        aheadAgain();
         aheadOfLastMinutes();
         aheadChangesNothing();
         pay();
@@ -18,6 +20,7 @@ public final class PlansTest extends Checked {
         payMinutes();
         payByTheStyleOfItsMinute();
         payOfCorrected();
+        payThenRule();
         payTogether();
         Checks.finish("PlansTest");
     }
@@ -191,6 +194,53 @@ public final class PlansTest extends Checked {
         same("P41 it is broken", NONE, x.ahead(NONE));
     }
 
+    /** What was cast ahead of the question counts: of its own MACHINE, in the last minutes, in its FACE. */
+    private static void aheadOfWhatWasCast() {
+        LeadRoom x = Rooms.singles("aa", "aa", "bb");
+        x.machine(2, 3);
+        x.machine(2, 3);
+        x.give(0, 1);
+        x.minutes(1);
+        x.give(5, 1);
+        x.give(10, 0);
+        same("P41 the brasses come back in minute 5", 5, x.ahead(NONE));
+        same("P41 without the other one", 5, x.ahead(0) == NONE ? 5 : 0);
+        x.minutes(4);
+        same("P19 so it is", 5, x.slug(2, 2));
+        LeadRoom y = new LeadRoom();
+        for (int sign = 0; sign < 27; sign++) {
+            y.width(1, sign, 5);
+        }
+        Checks.style(y, 0, "measure 10; space 1 40");
+        Checks.style(y, 2, "measure 10; space 1 40; measure 400 if late or due < 7");
+        Checks.story(y, 1, 300, words(4));
+        Checks.story(y, 1, 6, words(4));
+        y.machine(40, 0);
+        y.give(0, 0);
+        y.minutes(3);
+        y.give(5, 0);
+        same("P41 one more of the first, one of the second", 5, y.ahead(NONE));
+    }
+
+    /** A question leaves nothing behind for the next one. */
+    private static void aheadAgain() {
+        LeadRoom x = singles(2);
+        x.image();
+        Checks.story(x, 0, 0, words(3));
+        x.give(0, 0);
+        same("P41 three", 3, x.ahead(1));
+        same("P41 three again", 3, x.ahead(NONE));
+        same("P41 none", NONE, x.ahead(0));
+        x.back();
+        Checks.story(x, 0, 0, words(2) + "/" + words(2));
+        x.give(0, 1);
+        same("P41 two", 2, x.ahead(0));
+        same("P41 none without that", NONE, x.ahead(1));
+        x.minutes(1);
+        x.give(1, 1);
+        same("P41 one and two", 4, x.ahead(NONE));
+    }
+
     private static void aheadOfLastMinutes() {
         LeadRoom x = singles(1);
         Checks.story(x, 0, 0, words(2) + "/" + words(1));
@@ -308,6 +358,17 @@ public final class PlansTest extends Checked {
         same("P42 three bits", 6, y.pay(0, 0, 600));
         Checks.correct(y, 0, 2, 0, "e-f");
         same("P42 four bits now", 0, y.pay(0, 0, 600));
+    }
+
+    /** What a SLUG is stays with it, and does not go over to a PART that is asked next. */
+    private static void payThenRule() {
+        LeadRoom x = paid("pay 10 if corrected; measure 20 if corrected; measure 30 if letters > 0; measure 40 if machine < 9",
+            0, 2);
+        Checks.correct(x, 0, 1, 0, "bb");
+        x.minutes(1);
+        same("P42 the corrected one", 2, x.pay(0, 0, 600));
+        same("P9 the part is not corrected", 10, x.rule(0, 3, 0));
+        same("P9 by the first rule", 0, x.rule(0, 3, 5));
     }
 
     private static void payTogether() {

@@ -18,6 +18,7 @@ public final class SlugsTest extends Checked {
         correctByTheStyleOfNow();
         correctWithGaps();
         correctRefuses();
+        jobsInTurn();
         correctTexts();
         Checks.finish("SlugsTest");
     }
@@ -348,6 +349,28 @@ public final class SlugsTest extends Checked {
         same("P7 where", 1, x.fault());
         refuses("P26 a job of it, by another machine", STATE, () -> Checks.correct(x, 0, 0, 1, "yy"));
         same("P7 a right text", NONE, x.fault());
+    }
+
+    private static void jobsInTurn() {
+        LeadRoom x = Rooms.pairs(9, 0, "ab cd ef gh", "ij kl");
+        Rooms.castAll(x);
+        x.pie(2);
+        x.again(5, 0, 0);
+        same("P26 a second job", 1, Checks.correct(x, 0, 2, 0, "xy"));
+        x.minutes(1);
+        same("P19 the first is not corrected", 0, x.slug(3, 7));
+        same("P18 the second is next", 0, x.runs(0, 5));
+        x.minutes(1);
+        same("P19 the second is", 1, x.slug(4, 7));
+        x.pie(0);
+        Checks.correct(x, 0, 2, 0, "ef");
+        x.again(5, 0, 0);
+        same("P25 nothing is missing there", 1, x.runs(0, 0));
+        x.pie(3);
+        same("P25 now it is", 2, x.again(5, 0, 0));
+        x.minutes(2);
+        same("P19 now the first is", 1, x.slug(5, 7));
+        same("P19 the second is not", 0, x.slug(6, 7));
     }
 
     private static void correctTexts() {

@@ -7,6 +7,8 @@ public final class StyleTest extends Checked {
         wrongTexts();
         depths();
         thirteenRules();
+        cutTexts();
+        fourHundredBytes();
         without();
         conditions();
         precedence();
@@ -138,6 +140,57 @@ public final class StyleTest extends Checked {
         Checks.tell(x, twelve + " fat");
         refuses("P6 no ; there", ARGUMENT, () -> x.style(0));
         same("P7 the word", 72, x.fault());
+    }
+
+    /** What was on the TAPE behind the text is not read. */
+    private static void cutTexts() {
+        String[] texts = {"measure 60", "free if head", "fat 9", "free if late or words<12", "free if (head)", "", "  ",
+            "fat 1 ", "free if not late"};
+        for (String text : texts) {
+            for (char behind : "a0;)( ?".toCharArray()) {
+                LeadRoom x = new LeadRoom();
+                Checks.tell(x, text.getBytes(java.nio.charset.StandardCharsets.ISO_8859_1), behind);
+                same("P3 '" + text + "' cut ahead of " + behind, text.isBlank() ? 0 : 1, x.style(0));
+            }
+        }
+        LeadRoom x = new LeadRoom();
+        Checks.tell(x, "measure 1234");
+        x.end(10);
+        same("P3 two digits are left", 1, x.style(0));
+        Checks.tell(x, "measure 60 if head");
+        x.end(17);
+        refuses("P3 hea is none", ARGUMENT, () -> x.style(0));
+        same("P7 it begins there", 14, x.fault());
+        Checks.tell(x, "free if (head)");
+        x.end(13);
+        refuses("P3 the ) is cut off", ARGUMENT, () -> x.style(0));
+        same("P7 the text's length", 13, x.fault());
+    }
+
+    private static void fourHundredBytes() {
+        LeadRoom x = new LeadRoom();
+        String long396 = "free if head" + Checks.many(" or head", 48, "");
+        same("P6 400 bytes", 1, Checks.style(x, 0, long396 + "    "));
+        Checks.tell(x, long396 + " or ");
+        refuses("P6 400 bytes, and more must come", ARGUMENT, () -> x.style(0));
+        same("P7 the text's length", 400, x.fault());
+        Checks.tell(x, long396 + "; or");
+        refuses("P6 a wrong word at their end", ARGUMENT, () -> x.style(0));
+        same("P7 its begin", 398, x.fault());
+        // late in the middle of many that are not so
+        String many = "measure 99 if head" + Checks.many(" or head", 20, "") + " or late" + Checks.many(" or head", 20, "");
+        Checks.story(x, 0, 0, "ab");
+        same("P6 many atoms", 1, Checks.style(x, 0, many));
+        same("P9 none of them", 60, x.rule(0, 0, 0));
+        same("P9 one of them", 99, x.rule(0, 1, 0));
+        same("P6 many not and ands", 1, Checks.style(x, 0, "measure 98 if late"
+            + Checks.many(" and not head", 28, "")));
+        same("P9 not all of them", 60, x.rule(0, 0, 0));
+        same("P9 all of them", 98, x.rule(0, 1, 0));
+        String deep = "(late or (late or (late or (late or (late or head and head and head)))))";
+        same("P6 a deep one", 1, Checks.style(x, 0, "measure 97 if " + deep + " and " + deep + " and " + deep));
+        same("P9 late", 97, x.rule(0, 1, 0));
+        same("P9 not late", 60, x.rule(0, 0, 0));
     }
 
     private static LeadRoom roomWithParts() {
