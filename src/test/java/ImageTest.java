@@ -259,12 +259,17 @@ public final class ImageTest extends Checked {
         Checks.story(x, 1, 5, "a-b c / d");
         Checks.story(x, 0, 5, "aa bb cc aaa");
         Checks.story(x, 0, 5, "aa bb cc");
-        x.machine(1, 9);
+        Checks.story(x, 0, 5, "aa aa");
+        x.machine(2, 9);
         x.machine(2, 9);
         x.give(5, 0);
         x.give(10, 1);
         x.give(0, 0);
+        x.give(15, 0);
         x.minutes(12);
+        same("P18 it waited", 9, x.runs(0, 2));
+        same("P18 two were spiked", 2, x.runs(0, 3));
+        same("P18 one was cast", 1, x.runs(0, 1));
         x.give(1, 0);
         x.broken(0, true);
         x.slip(0, 0, 5);

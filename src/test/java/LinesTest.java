@@ -88,6 +88,17 @@ public final class LinesTest extends Checked {
         same("P10 the fewest lines", 1, y.best(0, 0));
         same("P10 no badness", 0, y.best(0, 1));
         same("P11 that one", "1", Checks.ends(y, 0));
+        // "b cc" (25), "c cbaa" (1) and "cb ba", or "b cc c" (4), "cba-" (1), "a cb" (16 + 4 + 1) and "ba"
+        LeadRoom w = new LeadRoom();
+        w.width(0, 0, 2);
+        w.width(0, 1, 2);
+        w.width(0, 2, 1);
+        w.width(0, 26, 5);
+        Checks.style(w, 0, "measure 10; space 1 40; part 1");
+        Checks.story(w, 0, 0, "b cc c cb-a-a cb ba");
+        same("P10 as bad", 26, w.best(0, 1));
+        same("P10 the fewest lines, not the longest first one", 3, w.best(0, 0));
+        same("P11 these", "1 5 7", Checks.ends(w, 0));
         // "a-", "a-", "a-" and "a", or "a-", "a-" and "aa"
         LeadRoom z = fives("a-a-a-a");
         same("P10 three lines", 3, z.best(0, 0));

@@ -212,14 +212,23 @@ public final class PlansTest extends Checked {
             y.width(1, sign, 5);
         }
         Checks.style(y, 0, "measure 10; space 1 40");
-        Checks.style(y, 2, "measure 10; space 1 40; measure 400 if late or due < 7");
+        Checks.style(y, 2, "measure 10; space 1 40; measure 400 if due < 7 or words > 8 or bits > 9");
         Checks.story(y, 1, 300, words(4));
         Checks.story(y, 1, 6, words(4));
+        Checks.story(y, 1, 300, words(4));
+        Checks.story(y, 1, 300, words(9));
+        Checks.story(y, 1, 300, "a-a-a-a-a a-a-a-a-a");
         y.machine(40, 0);
         y.give(0, 0);
         y.minutes(3);
         y.give(5, 0);
         same("P41 one more of the first, one of the second", 5, y.ahead(NONE));
+        y.give(10, 0);
+        same("P41 four of the third, by the widths of its face", 9, y.ahead(NONE));
+        y.give(15, 0);
+        same("P41 one of nine words", 10, y.ahead(NONE));
+        y.give(20, 0);
+        same("P41 one of ten pieces", 11, y.ahead(NONE));
     }
 
     /** A question leaves nothing behind for the next one. */
