@@ -1360,7 +1360,7 @@ public final class LeadRoom {
             int from = inkFrom[at];
             boolean isNot = takeWord("not");
             if (!isNot && !takeSign('(')) {
-                return tagOrFact();
+                return tagOrComparison(takeFact());
             }
             if (depth >= MOST_DEPTH) {
                 at = from;
@@ -1374,38 +1374,42 @@ public final class LeadRoom {
             return either(depth + 1) && (takeSign(')') || failHere());
         }
 
-        private boolean tagOrFact() {
-            int fact = NONE;
+        private int takeFact() {
             if (takeWord("head")) {
-                fact = Style.HEAD;
-            } else if (takeWord("late")) {
-                fact = Style.LATE;
-            } else if (takeWord("corrected")) {
-                fact = Style.CORRECTED;
-            } else if (takeWord("words")) {
-                fact = Style.WORDS;
-            } else if (takeWord("bits")) {
-                fact = Style.BITS;
-            } else if (takeWord("due")) {
-                fact = Style.DUE;
-            } else if (takeWord("minute")) {
-                fact = Style.MINUTE;
-            } else if (takeWord("letters")) {
-                fact = Style.LETTERS;
-            } else if (takeWord("machine")) {
-                fact = Style.MACHINE;
+                return Style.HEAD;
             }
+            if (takeWord("late")) {
+                return Style.LATE;
+            }
+            if (takeWord("corrected")) {
+                return Style.CORRECTED;
+            }
+            if (takeWord("words")) {
+                return Style.WORDS;
+            }
+            if (takeWord("bits")) {
+                return Style.BITS;
+            }
+            if (takeWord("due")) {
+                return Style.DUE;
+            }
+            if (takeWord("minute")) {
+                return Style.MINUTE;
+            }
+            if (takeWord("letters")) {
+                return Style.LETTERS;
+            }
+            return takeWord("machine") ? Style.MACHINE : NONE;
+        }
+
+        private boolean tagOrComparison(int fact) {
             if (fact == NONE) {
                 return failHere();
             }
-            if (fact > Style.CORRECTED) {
-                return comparison(fact);
+            if (fact <= Style.CORRECTED) {
+                into.addCode(fact, 0);
+                return true;
             }
-            into.addCode(fact, 0);
-            return true;
-        }
-
-        private boolean comparison(int fact) {
             boolean below = takeSign('<');
             if (!below && !takeSign('>')) {
                 return failHere();
@@ -1435,7 +1439,8 @@ public final class LeadRoom {
         private boolean takeWord(String word) {
             at = inkFrom[at];
             int end = at + word.length();
-            if (end > length || end < length && CopyReader.isLetter(text[end])) {
+            boolean goesOn = end < length && text[end] >= 'a' && text[end] <= 'z';
+            if (end > length || goesOn) {
                 return false;
             }
             for (int i = at; i < end; i++) {
@@ -1502,8 +1507,8 @@ public final class LeadRoom {
             return at >= 0 && at < widths.length ? widths[at] : 0;
         }
 
-        void loadRules(Style style, int[] facts) {
-            style.weigh(facts);
+        /** Takes what holds of a STYLE that was weighed for the PART. */
+        void loadRules(Style style) {
             measureRule = style.lastThatHolds(Style.MEASURE);
             measure = measureRule == NONE ? 60 : style.first[measureRule];
             int space = style.lastThatHolds(Style.SPACE);
@@ -1922,8 +1927,10 @@ public final class LeadRoom {
         }
 
         Breaker breakerFor(Part part, int minute) {
+            Style style = styleAt(minute);
             factsOfPart(part, minute);
-            breaker.loadRules(styleAt(minute), facts);
+            style.weigh(facts);
+            breaker.loadRules(style);
             breaker.loadCopy(part, widths);
             return breaker;
         }
