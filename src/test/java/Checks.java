@@ -68,16 +68,16 @@ final class Checks {
         return e.getMessage() == null && trace.length > 0 && trace[0].getClassName().startsWith("LeadRoom");
     }
 
-    static void tell(LeadRoom room, String text) {
+    static void tell(CountedRoom room, String text) {
         tell(room, text.getBytes(java.nio.charset.StandardCharsets.ISO_8859_1));
     }
 
-    static void tell(LeadRoom room, byte[] text) {
+    static void tell(CountedRoom room, byte[] text) {
         tell(room, text, 0);
     }
 
     /** Puts a text on the TAPE, which has to be empty; what is cut off behind it is this byte. */
-    static void tell(LeadRoom room, byte[] text, int behind) {
+    static void tell(CountedRoom room, byte[] text, int behind) {
         for (int i = 0; i < text.length; i += 20) {
             int[] words = new int[5];
             for (int k = 0; k < 20; k++) {
@@ -88,22 +88,22 @@ final class Checks {
         room.end(text.length);
     }
 
-    static int story(LeadRoom room, int face, int due, String text) {
+    static int story(CountedRoom room, int face, int due, String text) {
         tell(room, text);
         return room.story(face, due);
     }
 
-    static int style(LeadRoom room, int minute, String text) {
+    static int style(CountedRoom room, int minute, String text) {
         tell(room, text);
         return room.style(minute);
     }
 
-    static int correct(LeadRoom room, int part, int word, int machine, String text) {
+    static int correct(CountedRoom room, int part, int word, int machine, String text) {
         tell(room, text);
         return room.correct(part, word, machine);
     }
 
-    static String said(LeadRoom room, int slug) {
+    static String said(CountedRoom room, int slug) {
         StringBuilder text = new StringBuilder();
         for (int i = 0; room.says(slug, i) != NONE; i++) {
             text.append((char) room.says(slug, i));
@@ -112,7 +112,7 @@ final class Checks {
     }
 
     /** The last PIECES of all LINES, as ends tells them. */
-    static String ends(LeadRoom room, int part) {
+    static String ends(CountedRoom room, int part) {
         StringBuilder text = new StringBuilder();
         for (int i = 0; room.ends(part, i) != NONE; i++) {
             text.append(i == 0 ? "" : " ").append(room.ends(part, i));

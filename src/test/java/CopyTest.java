@@ -17,7 +17,7 @@ public final class CopyTest extends Checked {
     }
 
     private static void newRoom() {
-        LeadRoom x = new LeadRoom();
+        CountedRoom x = new CountedRoom();
         int[] counts = {0, 0, 0, 0, 0, 0, 0, 0, 0, 0, 0, 0, 0, 0, 0};
         for (int i = 0; i < counts.length; i++) {
             same("P1 count(" + i + ")", counts[i], x.count(i));
@@ -38,7 +38,7 @@ public final class CopyTest extends Checked {
     }
 
     private static void feed() {
-        LeadRoom x = new LeadRoom();
+        CountedRoom x = new CountedRoom();
         for (int i = 1; i <= 20; i++) {
             same("P2 feed", 20 * i, x.feed(0, 0, 0, 0, 0));
         }
@@ -48,7 +48,7 @@ public final class CopyTest extends Checked {
         same("P2 401 again", NONE, x.feed(0, 0, 0, 0, 0));
         x.end(380);
         same("P2 just 400", 400, x.feed(0, 0, 0, 0, 0));
-        LeadRoom y = new LeadRoom();
+        CountedRoom y = new CountedRoom();
         // "abcd efg-hij / kl mn" with the highest byte of each number first
         y.feed(0x61626364, 0x20656667, 0x2d68696a, 0x202f206b, 0x6c206d6e);
         same("P2 a story of it", 0, y.story(0, 0));
@@ -61,7 +61,7 @@ public final class CopyTest extends Checked {
     }
 
     private static void end() {
-        LeadRoom x = new LeadRoom();
+        CountedRoom x = new CountedRoom();
         same("P3 end(0)", true, x.end(0));
         same("P3 end(1) of none", false, x.end(1));
         same("P3 end(-1)", false, x.end(-1));
@@ -78,7 +78,7 @@ public final class CopyTest extends Checked {
     }
 
     private static void width() {
-        LeadRoom x = new LeadRoom();
+        CountedRoom x = new CountedRoom();
         Checks.story(x, 0, 0, "ab ab ab ab");
         Checks.story(x, 1, 0, "ab ab ab ab");
         Checks.style(x, 0, "measure 36; space 1 40");
@@ -99,7 +99,7 @@ public final class CopyTest extends Checked {
         refuses("P4 a sign ahead of a width", INDEX, () -> x.width(0, 27, 0));
         refuses("P4 width 0", ARGUMENT, () -> x.width(0, 0, 0));
         refuses("P4 width 21", ARGUMENT, () -> x.width(0, 0, 21));
-        LeadRoom y = new LeadRoom();
+        CountedRoom y = new CountedRoom();
         Checks.story(y, 0, 0, "ab-cd ef");
         Checks.style(y, 0, "measure 13; space 1 40");
         same("P4 the hyphen is 4 wide", 3, y.hand(0, false));
@@ -109,7 +109,7 @@ public final class CopyTest extends Checked {
     }
 
     private static void story() {
-        LeadRoom x = new LeadRoom();
+        CountedRoom x = new CountedRoom();
         same("P5 the first one", 0, Checks.story(x, 0, 0, "a"));
         same("P5 the second one", 1, Checks.story(x, 1, 600, "  a-b   c/d / e  /f/g  "));
         same("P5 count", 2, x.count(1));
@@ -130,7 +130,7 @@ public final class CopyTest extends Checked {
         refuses("P5 part 96", INDEX, () -> x.part(96, 0));
     }
 
-    private static int partsOf(LeadRoom x, int story) {
+    private static int partsOf(CountedRoom x, int story) {
         int parts = 0;
         for (int i = 0; i < 5; i++) {
             try {
@@ -144,7 +144,7 @@ public final class CopyTest extends Checked {
     }
 
     private static void storyRefuses() {
-        LeadRoom x = new LeadRoom();
+        CountedRoom x = new CountedRoom();
         Checks.tell(x, "?");
         refuses("P5 face 2, ahead of all", INDEX, () -> x.story(2, 601));
         same("P7 no text was read", NONE, x.fault());
@@ -170,7 +170,7 @@ public final class CopyTest extends Checked {
             3, 4, 10, 10, 0, 1, 2, 1, 3, 3, 4, 4,
             12, NONE, 27, NONE, NONE, NONE};
         for (int i = 0; i < texts.length; i++) {
-            LeadRoom x = new LeadRoom();
+            CountedRoom x = new CountedRoom();
             Checks.tell(x, texts[i]);
             if (faults[i] == NONE) {
                 same("P5 story of '" + texts[i] + "'", 0, x.story(0, 0));
@@ -183,7 +183,7 @@ public final class CopyTest extends Checked {
     }
 
     private static void limitsOfCopy() {
-        LeadRoom x = new LeadRoom();
+        CountedRoom x = new CountedRoom();
         same("P5 24 words", 0, Checks.story(x, 0, 0, Checks.many("ab", 24, " ")));
         same("P8 24 words", 24, x.part(0, 0));
         Checks.tell(x, Checks.many("ab", 25, " "));
@@ -220,13 +220,13 @@ public final class CopyTest extends Checked {
         String[] texts = {"ab", "ab cd", "ab/cd", "ab-c", "ab ", "abcdefghijkl", Checks.many("a", 40, "-")};
         for (String text : texts) {
             for (char behind : "a-/ ?".toCharArray()) {
-                LeadRoom x = new LeadRoom();
+                CountedRoom x = new CountedRoom();
                 Checks.tell(x, text.getBytes(java.nio.charset.StandardCharsets.ISO_8859_1), behind);
                 same("P3 '" + text + "' cut ahead of " + behind, 0, x.story(0, 0));
                 same("P5 a story", 1, x.count(1));
             }
         }
-        LeadRoom x = new LeadRoom();
+        CountedRoom x = new CountedRoom();
         Checks.tell(x, "ab-".getBytes(java.nio.charset.StandardCharsets.ISO_8859_1), 'c');
         refuses("P3 a letter that was cut off", ARGUMENT, () -> x.story(0, 0));
         same("P7 the text's length", 3, x.fault());
@@ -234,7 +234,7 @@ public final class CopyTest extends Checked {
 
     /** More letters than a TAPE holds: by corrections of copy that is not SET. */
     private static void mostLetters() {
-        LeadRoom x = new LeadRoom();
+        CountedRoom x = new CountedRoom();
         x.machine(1, 0);
         Checks.story(x, 0, 0, Checks.many("a", 20, " "));
         for (int word = 0; word < 20; word++) {
@@ -255,7 +255,7 @@ public final class CopyTest extends Checked {
     }
 
     private static void tapeIsUsedUp() {
-        LeadRoom x = new LeadRoom();
+        CountedRoom x = new CountedRoom();
         Checks.story(x, 0, 0, "ab cd");
         same("P5 used up by a story", false, x.end(1));
         Checks.tell(x, "ab?");
@@ -271,7 +271,7 @@ public final class CopyTest extends Checked {
     }
 
     private static void part() {
-        LeadRoom x = new LeadRoom();
+        CountedRoom x = new CountedRoom();
         Checks.story(x, 1, 77, "ab-cd ef / gh");
         Checks.story(x, 0, 600, "ab");
         int[] first = {2, 3, 1, 77, 0, NONE, 0, 0};

@@ -17,7 +17,7 @@ public final class ImageTest extends Checked {
     }
 
     private static void rows() {
-        LeadRoom x = Rooms.singles("aa bb", "cc dd dd");
+        CountedRoom x = Rooms.singles("aa bb", "cc dd dd");
         x.machine(40, 0);
         x.machine(40, 0);
         refuses("P43 no row at minute 0", NO_ELEMENT, () -> x.row(0, 0));
@@ -42,7 +42,7 @@ public final class ImageTest extends Checked {
     }
 
     private static void eightRows() {
-        LeadRoom x = Rooms.singles(Checks.many("aa", 12, " "));
+        CountedRoom x = Rooms.singles(Checks.many("aa", 12, " "));
         x.machine(40, 0);
         x.give(0, 0);
         x.minutes(8);
@@ -61,7 +61,7 @@ public final class ImageTest extends Checked {
     }
 
     private static void tear() {
-        LeadRoom x = Rooms.singles(Checks.many("aa", 12, " "));
+        CountedRoom x = Rooms.singles(Checks.many("aa", 12, " "));
         x.machine(40, 0);
         x.give(0, 0);
         x.minutes(6);
@@ -79,7 +79,7 @@ public final class ImageTest extends Checked {
     }
 
     private static void check() {
-        LeadRoom x = Rooms.singles(Checks.many("aa", 12, " "));
+        CountedRoom x = Rooms.singles(Checks.many("aa", 12, " "));
         same("P45 no rows", NONE, x.check());
         x.machine(40, 0);
         x.give(0, 0);
@@ -105,7 +105,7 @@ public final class ImageTest extends Checked {
     }
 
     private static void backWithoutImage() {
-        LeadRoom x = Rooms.singles("aa");
+        CountedRoom x = Rooms.singles("aa");
         same("P47 none was kept", false, x.back());
         same("P47 nothing happens", 1, x.count(1));
         x.image();
@@ -113,8 +113,8 @@ public final class ImageTest extends Checked {
     }
 
     /** A room in which there is something of all. */
-    private static LeadRoom full() {
-        LeadRoom x = Rooms.singles("aa bb cc / dd", "ee ff");
+    private static void full(CountedRoom x) {
+        Rooms.singles(x, "aa bb cc / dd", "ee ff");
         Checks.story(x, 1, 30, "ef gh ij");
         x.machine(8, 1);
         x.machine(30, 0);
@@ -136,64 +136,9 @@ public final class ImageTest extends Checked {
         x.tear(3, 1, 5);
         x.page(3, 2, 30);
         x.broken(0, true);
-        return x;
     }
 
-    /** All that can be asked, in one text. */
-    private static String all(LeadRoom x) {
-        StringBuilder text = new StringBuilder();
-        for (int what = 0; what < 15; what++) {
-            text.append(" c").append(x.count(what));
-        }
-        for (int part = 0; part < 5 * x.count(1); part++) {
-            for (int what = 0; what < 8; what++) {
-                int p = part;
-                int w = what;
-                text.append(" p").append(asked(() -> x.part(p, w)));
-                text.append(" b").append(asked(() -> x.best(p, w)));
-                text.append(" r").append(asked(() -> x.rule(p, 5, w)));
-                text.append(" l").append(asked(() -> x.lies(p, w)));
-                text.append(" e").append(asked(() -> x.ends(p, w)));
-            }
-        }
-        for (int slug = 0; slug < x.count(4); slug++) {
-            for (int what = 0; what < 10; what++) {
-                text.append(" s").append(x.slug(slug, what));
-            }
-            text.append(Checks.said(x, slug)).append(x.where(slug, 600, 600));
-        }
-        for (int machine = 0; machine < x.count(3); machine++) {
-            for (int what = 0; what < 6; what++) {
-                text.append(" m").append(x.runs(machine, what));
-            }
-            text.append(" $").append(x.pay(machine, 0, 600)).append(" a").append(x.ahead(machine));
-        }
-        for (int page = 0; page < 6; page++) {
-            for (int what = 0; what < 5; what++) {
-                text.append(" g").append(x.locked(page, what));
-            }
-            for (int edition = -1; edition < x.count(11); edition++) {
-                text.append(" t").append(x.stands(page, edition, 0)).append(x.stands(page, edition, 1));
-            }
-        }
-        for (int what = 0; what < 6; what++) {
-            text.append(" f").append(x.proof(what));
-        }
-        for (int i = 0; i < 4 * x.count(14); i++) {
-            text.append(" w").append(x.row(i / 4, i % 4));
-        }
-        return text.append(x.check()).append(' ').append(x.least()).toString();
-    }
-
-    private static String asked(Checks.Call call) {
-        try {
-            return Long.toString(call.answer());
-        } catch (RuntimeException e) {
-            return e.getClass().getSimpleName();
-        }
-    }
-
-    private static void changeAll(LeadRoom x) {
+    private static void changeAll(CountedRoom x) {
         Checks.style(x, x.count(0), "measure 99; pay 77; fat 9; close 0 at 0");
         x.width(0, 0, 1);
         x.width(1, 5, 20);
@@ -216,32 +161,31 @@ public final class ImageTest extends Checked {
         x.tear(0, 0, 1);
     }
 
+    /** All that can be asked of rooms made by one Scene is as it is of rooms made by another one. */
+    private static void sameWhole(String what, Scene due, Scene got) {
+        same(what, "", Whole.difference(Whole.of(due), Whole.of(got)));
+    }
+
     private static void imageOfAll() {
-        LeadRoom x = full();
-        String before = all(x);
-        x.image();
-        same("P46 it changes nothing", before, all(x));
-        changeAll(x);
-        same("P46 then all is otherwise", false, before.equals(all(x)));
-        same("P47 back", true, x.back());
-        same("P47 all is as it was", before, all(x));
-        changeAll(x);
-        String changed = all(x);
-        x.back();
-        same("P47 back again", before, all(x));
-        changeAll(x);
-        same("P47 it goes on as it did", changed, all(x));
-        LeadRoom y = full();
-        changeAll(y);
-        same("P47 as if nothing had been", changed, all(y));
-        LeadRoom z = new LeadRoom();
-        z.image();
-        String empty = all(z);
-        Checks.story(z, 0, 0, "ab");
-        z.machine(3, 3);
-        z.minutes(5);
-        z.back();
-        same("P47 back to nothing", empty, all(z));
+        Scene full = ImageTest::full;
+        Scene kept = full.then(x -> x.image());
+        Scene changed = kept.then(ImageTest::changeAll);
+        Scene gone = changed.then(x -> x.back());
+        sameWhole("P46 it changes nothing", full, kept);
+        same("P46 then all is otherwise", false, Whole.difference(Whole.of(full), Whole.of(changed)).isEmpty());
+        sameWhole("P47 all is as it was", full, gone);
+        sameWhole("P47 it goes on as it did", full.then(ImageTest::changeAll), gone.then(ImageTest::changeAll));
+        sameWhole("P47 back again", full, gone.then(ImageTest::changeAll).then(x -> x.back()));
+        Scene nothing = x -> x.image();
+        Scene some = x -> {
+            Checks.story(x, 0, 0, "ab");
+            x.machine(3, 3);
+            x.minutes(5);
+            x.back();
+        };
+        sameWhole("P47 back to nothing", nothing, nothing.then(some));
+        CountedRoom z = new CountedRoom();
+        nothing.then(some).play(z);
         refuses("P47 no part", INDEX, () -> z.part(0, 0));
         Checks.story(z, 1, 0, "a-b c");
         same("P8 another part 0", 2, z.part(0, 0));
@@ -250,7 +194,7 @@ public final class ImageTest extends Checked {
 
     /** After one went back, what comes anew has nothing of what was there. */
     private static void newThingsAfterBack() {
-        LeadRoom x = new LeadRoom();
+        CountedRoom x = new CountedRoom();
         x.image();
         Checks.style(x, 0, "measure 10; space 1 40; pay 5; close 0 at 0");
         for (int sign = 0; sign < 27; sign++) {
@@ -320,41 +264,44 @@ public final class ImageTest extends Checked {
 
     /** What a MACHINE, a PART that is not SET, and a PAGE have is kept, too. */
     private static void smallThingsAreKept() {
-        LeadRoom x = Rooms.singles("aa aa aa", "aaa", "bbb", "cc dd", "ee-ff");
-        Checks.style(x, 0, "measure 10; space 1 40; close 1 at 1");
-        x.machine(2, 1);
-        x.give(5, 0);
-        x.give(0, 0);
-        x.give(15, 0);
-        x.minutes(5);
-        same("P18 waited", 2, x.runs(0, 2));
-        same("P18 spiked", 1, x.runs(0, 3));
-        x.minutes(2);
-        x.lock(1, 1);
-        same("P36 late", 6, x.locked(1, 2));
-        x.carry(0, 3, 2);
-        x.image();
-        String before = all(x);
-        x.give(10, 0);
-        Checks.correct(x, 20, 0, 0, "gg-hh-ii");
-        x.minutes(5);
-        x.pie(0);
-        x.again(0, 0, 0);
-        x.minutes(4);
-        x.lock(1, 8);
-        x.carry(0, 4, 2);
-        x.carry(1, 4, 16);
-        same("P18 spiked once more", 2, x.runs(0, 3));
-        same("P36 another late", 15, x.locked(1, 2));
-        x.back();
-        same("P47 all is as it was", before, all(x));
-        same("P36 locked at", 7, x.locked(1, 1));
-        same("P8 pieces", 2, x.part(20, 1));
-        same("P31 told", 3, x.where(0, 600, 600));
+        Scene before = x -> {
+            Rooms.singles(x, "aa aa aa", "aaa", "bbb", "cc dd", "ee-ff");
+            Checks.style(x, 0, "measure 10; space 1 40; close 1 at 1");
+            x.machine(2, 1);
+            x.give(5, 0);
+            x.give(0, 0);
+            x.give(15, 0);
+            x.minutes(5);
+            same("P18 waited", 2, x.runs(0, 2));
+            same("P18 spiked", 1, x.runs(0, 3));
+            x.minutes(2);
+            x.lock(1, 1);
+            same("P36 late", 6, x.locked(1, 2));
+            x.carry(0, 3, 2);
+        };
+        Scene after = before.then(x -> {
+            x.image();
+            x.give(10, 0);
+            Checks.correct(x, 20, 0, 0, "gg-hh-ii");
+            x.minutes(5);
+            x.pie(0);
+            x.again(0, 0, 0);
+            x.minutes(4);
+            x.lock(1, 8);
+            x.carry(0, 4, 2);
+            x.carry(1, 4, 16);
+            same("P18 spiked once more", 2, x.runs(0, 3));
+            same("P36 another late", 15, x.locked(1, 2));
+            x.back();
+            same("P36 locked at", 7, x.locked(1, 1));
+            same("P8 pieces", 2, x.part(20, 1));
+            same("P31 told", 3, x.where(0, 600, 600));
+        });
+        sameWhole("P47 all is as it was", before, after);
     }
 
     private static void tapeAndFaultStay() {
-        LeadRoom x = new LeadRoom();
+        CountedRoom x = new CountedRoom();
         Checks.tell(x, "ab");
         x.image();
         Checks.tell(x, "");
@@ -373,7 +320,7 @@ public final class ImageTest extends Checked {
     }
 
     private static void imageStays() {
-        LeadRoom x = new LeadRoom();
+        CountedRoom x = new CountedRoom();
         x.minutes(3);
         x.image();
         x.minutes(3);
@@ -387,7 +334,8 @@ public final class ImageTest extends Checked {
     }
 
     private static void count() {
-        LeadRoom x = full();
+        CountedRoom x = new CountedRoom();
+        full(x);
         int[] due = {9, 3, 5, 2, 8, 6, 1, 1, 0, 1, 1, 1, 2, 2, 8};
         for (int what = 0; what < due.length; what++) {
             same("P48 count(" + what + ")", due[what], x.count(what));

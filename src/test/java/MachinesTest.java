@@ -27,7 +27,7 @@ public final class MachinesTest extends Checked {
     }
 
     private static void machine() {
-        LeadRoom x = new LeadRoom();
+        CountedRoom x = new CountedRoom();
         refuses("P13 -1 brasses", ARGUMENT, () -> x.machine(-1, 0));
         refuses("P13 41 brasses", ARGUMENT, () -> x.machine(41, 0));
         refuses("P13 back -1", ARGUMENT, () -> x.machine(1, -1));
@@ -43,7 +43,7 @@ public final class MachinesTest extends Checked {
     }
 
     private static void brass() {
-        LeadRoom x = new LeadRoom();
+        CountedRoom x = new CountedRoom();
         x.machine(5, 2);
         same("P14 all are there", 7, x.brass(0, 0, 7));
         same("P14 of the hyphen", 40, x.brass(0, 26, 40));
@@ -57,7 +57,7 @@ public final class MachinesTest extends Checked {
     }
 
     private static void brassThatIsOut() {
-        LeadRoom x = Rooms.pairs(5, 2, "ab ab cd-e");
+        CountedRoom x = Rooms.pairs(5, 2, "ab ab cd-e");
         x.give(0, 0);
         x.minutes(1);
         same("P14 two a are out", 3, x.brass(0, 0, 5));
@@ -72,15 +72,15 @@ public final class MachinesTest extends Checked {
         same("P14 the c is not", 4, x.brass(0, 2, 5));
         x.minutes(1);
         same("P14 all are back", 5, x.brass(0, 2, 5));
-        LeadRoom y = Rooms.pairs(9, 1, "abcd-ab cd");
+        CountedRoom y = Rooms.pairs(9, 1, "abcd-ab cd");
         y.give(0, 0);
         y.minutes(1);
         same("P14 a hyphen is out", 8, y.brass(0, 26, 9));
-        LeadRoom z = Rooms.pairs(9, 0, "ab ab");
+        CountedRoom z = Rooms.pairs(9, 0, "ab ab");
         z.give(0, 0);
         z.minutes(1);
         same("P14 back 0: nothing is out", 9, z.brass(0, 0, 9));
-        LeadRoom w = Rooms.pairs(9, 3, "ab ab");
+        CountedRoom w = Rooms.pairs(9, 3, "ab ab");
         w.machine(9, 3);
         w.give(0, 1);
         w.minutes(1);
@@ -92,7 +92,7 @@ public final class MachinesTest extends Checked {
     }
 
     private static void broken() {
-        LeadRoom x = Rooms.pairs(9, 0, "ab ab");
+        CountedRoom x = Rooms.pairs(9, 0, "ab ab");
         same("P15 it was not", false, x.broken(0, false));
         same("P15 it is now", true, x.broken(0, true));
         same("P15 it was", false, x.broken(0, true));
@@ -109,7 +109,7 @@ public final class MachinesTest extends Checked {
     }
 
     private static void give() {
-        LeadRoom x = Rooms.pairs(9, 0, "ab / cd / ef");
+        CountedRoom x = Rooms.pairs(9, 0, "ab / cd / ef");
         x.machine(9, 0);
         same("P16 one job", 1, x.give(0, 0));
         same("P16 another one", 2, x.give(2, 0));
@@ -127,7 +127,7 @@ public final class MachinesTest extends Checked {
     }
 
     private static void thirtyJobs() {
-        LeadRoom x = Rooms.pairs(9, 0);
+        CountedRoom x = Rooms.pairs(9, 0);
         for (int i = 0; i < 7; i++) {
             Checks.story(x, 0, 0, "a/b/c/d/e");
         }
@@ -146,7 +146,7 @@ public final class MachinesTest extends Checked {
     }
 
     private static void minutes() {
-        LeadRoom x = new LeadRoom();
+        CountedRoom x = new CountedRoom();
         same("P17 none", 0, x.minutes(0));
         same("P17 one", 1, x.minutes(1));
         refuses("P17 -1", ARGUMENT, () -> x.minutes(-1));
@@ -160,7 +160,7 @@ public final class MachinesTest extends Checked {
     }
 
     private static void castsAndWaits() {
-        LeadRoom x = Rooms.pairs(2, 1, "ab ab ab ab");
+        CountedRoom x = Rooms.pairs(2, 1, "ab ab ab ab");
         x.give(0, 0);
         same("P17 now", 1, x.minutes(1));
         same("P8 it is set", 2, x.part(0, 5));
@@ -176,7 +176,7 @@ public final class MachinesTest extends Checked {
         x.minutes(5);
         same("P18 no job, no waiting", 1, x.runs(0, 2));
         same("P18 lines cast", 2, x.runs(0, 1));
-        LeadRoom y = Rooms.pairs(3, 2, "ab ab ab ab ab ab");
+        CountedRoom y = Rooms.pairs(3, 2, "ab ab ab ab ab ab");
         y.give(0, 0);
         y.minutes(9);
         same("P19 minute of the first", 1, y.slug(0, 2));
@@ -186,11 +186,11 @@ public final class MachinesTest extends Checked {
     }
 
     private static void backOfZeroAndNine() {
-        LeadRoom x = Rooms.pairs(2, 0, "ab ab ab ab");
+        CountedRoom x = Rooms.pairs(2, 0, "ab ab ab ab");
         x.give(0, 0);
         x.minutes(2);
         same("P17 back 0 never waits", 2, x.count(4));
-        LeadRoom y = Rooms.pairs(2, 9, "ab ab ab ab");
+        CountedRoom y = Rooms.pairs(2, 9, "ab ab ab ab");
         y.give(0, 0);
         y.minutes(10);
         same("P17 back 9 waits", 1, y.count(4));
@@ -200,7 +200,7 @@ public final class MachinesTest extends Checked {
     }
 
     private static void spikedWithoutBest() {
-        LeadRoom x = Rooms.pairs(9, 0, "abcdef", "ab cd ef gh ij abcdef kl", "ab");
+        CountedRoom x = Rooms.pairs(9, 0, "abcdef", "ab cd ef gh ij abcdef kl", "ab");
         x.give(0, 0);
         x.give(5, 0);
         x.give(10, 0);
@@ -219,7 +219,7 @@ public final class MachinesTest extends Checked {
     }
 
     private static void spikedWithoutBrasses() {
-        LeadRoom x = Rooms.pairs(1, 0, "ab cd ab ab ef gh", "ab");
+        CountedRoom x = Rooms.pairs(1, 0, "ab cd ab ab ef gh", "ab");
         x.give(0, 0);
         x.give(5, 0);
         x.minutes(1);
@@ -231,7 +231,7 @@ public final class MachinesTest extends Checked {
         x.minutes(1);
         same("P17 the next job", 5, x.slug(1, 0));
         same("P18 lines cast", 2, x.runs(0, 1));
-        LeadRoom y = Rooms.pairs(9, 0, "abcd-ab cd");
+        CountedRoom y = Rooms.pairs(9, 0, "abcd-ab cd");
         y.brass(0, 26, 0);
         y.give(0, 0);
         y.minutes(1);
@@ -239,7 +239,7 @@ public final class MachinesTest extends Checked {
     }
 
     private static void fewerThanAreOut() {
-        LeadRoom x = Rooms.pairs(9, 2, "ab ab cd cd", "ab");
+        CountedRoom x = Rooms.pairs(9, 2, "ab ab cd cd", "ab");
         x.give(0, 0);
         x.minutes(1);
         x.brass(0, 0, 1);
@@ -253,7 +253,7 @@ public final class MachinesTest extends Checked {
     }
 
     private static void threeHundredSlugs() {
-        LeadRoom x = Rooms.singles();
+        CountedRoom x = Rooms.singles();
         String part = Checks.many("aa", 24, " ");
         for (int i = 0; i < 3; i++) {
             Checks.story(x, 0, 0, Checks.many(part, 5, "/"));
@@ -276,7 +276,7 @@ public final class MachinesTest extends Checked {
     }
 
     private static void machinesByNumbers() {
-        LeadRoom x = Rooms.pairs(9, 0, "ab", "cd");
+        CountedRoom x = Rooms.pairs(9, 0, "ab", "cd");
         x.machine(9, 0);
         x.give(0, 1);
         x.give(5, 0);
@@ -284,7 +284,7 @@ public final class MachinesTest extends Checked {
         same("P17 machine 0 is first", 5, x.slug(0, 0));
         same("P17 then machine 1", 0, x.slug(1, 0));
         same("P19 its machine", 1, x.slug(1, 1));
-        LeadRoom y = Rooms.pairs(2, 5, "ab", "ab", "ab");
+        CountedRoom y = Rooms.pairs(2, 5, "ab", "ab", "ab");
         y.machine(2, 5);
         y.give(0, 0);
         y.give(5, 1);
@@ -293,7 +293,7 @@ public final class MachinesTest extends Checked {
     }
 
     private static void runs() {
-        LeadRoom x = Rooms.pairs(9, 0, "ab cd ef", "ab");
+        CountedRoom x = Rooms.pairs(9, 0, "ab cd ef", "ab");
         int[] fresh = {0, 0, 0, 0, 0, NONE};
         for (int what = 0; what < 6; what++) {
             same("P18 at first " + what, fresh[what], x.runs(0, what));
@@ -312,7 +312,7 @@ public final class MachinesTest extends Checked {
     }
 
     private static void slug() {
-        LeadRoom x = Rooms.pairs(9, 0, "ab", "abcd-ab cd ef");
+        CountedRoom x = Rooms.pairs(9, 0, "ab", "abcd-ab cd ef");
         x.minutes(3);
         x.machine(9, 0);
         x.give(5, 1);
@@ -337,7 +337,7 @@ public final class MachinesTest extends Checked {
     }
 
     private static void says() {
-        LeadRoom x = Rooms.pairs(9, 0, "abcd-ab   cd ef");
+        CountedRoom x = Rooms.pairs(9, 0, "abcd-ab   cd ef");
         x.give(0, 0);
         x.minutes(3);
         same("P20 parted", "abcd-", Checks.said(x, 0));
@@ -349,12 +349,12 @@ public final class MachinesTest extends Checked {
         same("P20 the hyphen", 45, x.says(0, 4));
         refuses("P20 slug 3", INDEX, () -> x.says(3, 0));
         refuses("P20 slug -1", INDEX, () -> x.says(-1, 0));
-        LeadRoom y = Rooms.pairs(40, 0, "a-b-c-d e");
+        CountedRoom y = Rooms.pairs(40, 0, "a-b-c-d e");
         Checks.style(y, 0, "measure 400; space 1 1");
         y.give(0, 0);
         y.minutes(1);
         same("P20 no hyphen within a line", "abcd e", Checks.said(y, 0));
-        LeadRoom z = new LeadRoom();
+        CountedRoom z = new CountedRoom();
         z.width(0, 0, 1);
         Checks.style(z, 0, "measure 400; space 1 1");
         String longest = Checks.many("aaaaaaaaaaaa", 30, "-");
@@ -367,7 +367,7 @@ public final class MachinesTest extends Checked {
     }
 
     private static void longLines() {
-        LeadRoom x = new LeadRoom();
+        CountedRoom x = new CountedRoom();
         for (int sign = 0; sign < 27; sign++) {
             x.width(0, sign, 1);
         }
@@ -391,7 +391,7 @@ public final class MachinesTest extends Checked {
     }
 
     private static void lies() {
-        LeadRoom x = Rooms.pairs(9, 0, "ab cd ef", "ab");
+        CountedRoom x = Rooms.pairs(9, 0, "ab cd ef", "ab");
         refuses("P21 part 1", INDEX, () -> x.lies(1, 0));
         refuses("P21 part -1", INDEX, () -> x.lies(-1, 0));
         refuses("P21 not set", STATE, () -> x.lies(0, 0));
@@ -409,7 +409,7 @@ public final class MachinesTest extends Checked {
     }
 
     private static void judge() {
-        LeadRoom x = Rooms.pairs(9, 0, "ab cd ef gh ij", "kl");
+        CountedRoom x = Rooms.pairs(9, 0, "ab cd ef gh ij", "kl");
         refuses("P22 not set", STATE, () -> x.judge(0));
         refuses("P22 no part", INDEX, () -> x.judge(7));
         x.give(0, 0);
@@ -434,7 +434,7 @@ public final class MachinesTest extends Checked {
     }
 
     private static void rightInTheFace() {
-        LeadRoom x = Rooms.pairs(9, 0);
+        CountedRoom x = Rooms.pairs(9, 0);
         Checks.story(x, 0, 0, "ab");
         Checks.story(x, 1, 0, "ab");
         Checks.story(x, 0, 0, "ab");
@@ -451,14 +451,14 @@ public final class MachinesTest extends Checked {
     }
 
     private static void copyAsItIsWhenSet() {
-        LeadRoom x = Rooms.pairs(9, 0, "ab cd", "ef");
+        CountedRoom x = Rooms.pairs(9, 0, "ab cd", "ef");
         x.give(5, 0);
         x.give(0, 0);
         x.minutes(1);
         Checks.correct(x, 0, 1, 0, "gh");
         x.minutes(1);
         same("P17 the copy that it has then", "ab gh", Checks.said(x, 1));
-        LeadRoom y = Rooms.pairs(9, 0, "ab cd ef gh");
+        CountedRoom y = Rooms.pairs(9, 0, "ab cd ef gh");
         Checks.style(y, 1, "measure 200");
         y.give(0, 0);
         same("P10 now", 2, y.best(0, 0));

@@ -10,11 +10,13 @@ public final class OracleTest {
 
     private static final int[] STRANGE = {-1, -2, 5, 6, 7, 20, 27, 31, 100, 300, 601, Integer.MAX_VALUE,
         Integer.MIN_VALUE, Integer.MIN_VALUE + 1, 1 << 30, 4, 8, 40, 41, 512};
+    /** Calls that a run leaves for the last look at all that there is. */
+    private static final int LAST_LOOK = 160;
     private static int compared = 0;
     private static int thrown = 0;
 
     private final Random random;
-    private final LeadRoom room = new LeadRoom();
+    private final CountedRoom room = new CountedRoom();
     private final Model model = new Model();
     private final List<String> calls = new ArrayList<>();
     private final int strange;
@@ -25,6 +27,10 @@ public final class OracleTest {
     private final boolean rich;
     /** A room in which what is at most comes up: STORIES, SLUGS, JOBS, tellings, EDITIONS, minutes. */
     private final boolean full;
+    /** When all is looked over: how many questions there are, and the share of them that is asked. */
+    private boolean counts = false;
+    private int questions = 0;
+    private double share = 1;
 
     private OracleTest(long seed) {
         random = new Random(seed);
@@ -37,7 +43,7 @@ public final class OracleTest {
     }
 
     public static void main(String[] args) {
-        int runs = args.length > 1 ? Integer.parseInt(args[1]) : 400;
+        int runs = args.length > 1 ? Integer.parseInt(args[1]) : 1500;
         int from = args.length > 2 ? Integer.parseInt(args[2]) : 0;
         for (int seed = from; seed < from + runs; seed++) {
             OracleTest test = new OracleTest(seed);
@@ -51,11 +57,11 @@ public final class OracleTest {
 
     private boolean run() {
         boolean same = begin();
-        for (int i = 0; same && calls.size() < 600; i++) {
+        for (int i = 0; same && room.calls() < CountedRoom.MOST_CALLS - LAST_LOOK; i++) {
             boolean goesBack = rich && i == 40 && random.nextInt(3) == 0;
-            same = goesBack ? goBackAndBeginAnew() : random.nextInt(60) == 0 ? lookOver() : step();
+            same = goesBack ? goBackAndBeginAnew() : random.nextInt(60) == 0 ? lookOver(30) : step();
         }
-        return same && lookOver();
+        return same && lookOver(CountedRoom.MOST_CALLS);
     }
 
     /** Most runs begin with copy, a STYLE that lets it break, and MACHINES that cast it. */
@@ -129,12 +135,20 @@ public final class OracleTest {
     }
 
     private boolean goBackAndBeginAnew() {
-        return check("back()", () -> bit(room.back()), () -> bit(model.back())) && lookOver() && beginRich() && lookOver();
+        return check("back()", () -> bit(room.back()), () -> bit(model.back())) && lookOver(40) && beginRich() && lookOver(40);
     }
 
     // ---- comparing
 
+    /** Nothing is promised of a 513th call, so that none is made. */
     private boolean check(String call, Call real, Call due) {
+        if (counts) {
+            questions++;
+            return true;
+        }
+        if (share < 1 && random.nextDouble() >= share || room.calls() >= CountedRoom.MOST_CALLS) {
+            return true;
+        }
         calls.add(call);
         compared++;
         Object want;
@@ -171,8 +185,19 @@ public final class OracleTest {
         return is ? 1 : 0;
     }
 
-    /** Asks for all that can be asked of what there is. */
-    private boolean lookOver() {
+    /** Asks for so much of all that can be asked of what there is. */
+    private boolean lookOver(int most) {
+        counts = true;
+        questions = 0;
+        lookAtAll();
+        counts = false;
+        share = Math.min(most, CountedRoom.MOST_CALLS - room.calls()) / (double) questions;
+        boolean same = lookAtAll();
+        share = 1;
+        return same;
+    }
+
+    private boolean lookAtAll() {
         boolean same = true;
         for (int what = -1; same && what < 16; what++) {
             int w = what;
@@ -416,6 +441,9 @@ public final class OracleTest {
     }
 
     private boolean tell(String text) {
+        if (room.calls() + 22 > CountedRoom.MOST_CALLS) {
+            return true;
+        }
         calls.add("tell '" + text + "'");
         Checks.tell(room, text.getBytes(java.nio.charset.StandardCharsets.ISO_8859_1),
             "a0; -/)".charAt(random.nextInt(7)));
@@ -639,7 +667,7 @@ public final class OracleTest {
                 return check("image()", () -> done(room::image), () -> done(model::image));
             case 1:
                 return random.nextInt(2) == 0
-                    || check("back()", () -> bit(room.back()), () -> bit(model.back())) && lookOver();
+                    || check("back()", () -> bit(room.back()), () -> bit(model.back())) && lookOver(30);
             default:
                 int i = or(random.nextInt(8));
                 int machine = or(random.nextInt(4));

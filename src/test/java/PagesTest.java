@@ -24,15 +24,15 @@ public final class PagesTest extends Checked {
     }
 
     /** A room in which so many STORIES are cast; each WORD is a LINE. */
-    private static LeadRoom cast(String... copies) {
-        LeadRoom x = Rooms.singles(copies);
+    private static CountedRoom cast(String... copies) {
+        CountedRoom x = Rooms.singles(copies);
         x.machine(40, 0);
         Rooms.castAll(x);
         return x;
     }
 
     private static void page() {
-        LeadRoom x = new LeadRoom();
+        CountedRoom x = new CountedRoom();
         x.page(5, 3, 60);
         same("P36 columns", 3, x.locked(5, 3));
         same("P36 long", 60, x.locked(5, 4));
@@ -46,7 +46,7 @@ public final class PagesTest extends Checked {
         refuses("P32 0 long", ARGUMENT, () -> x.page(0, 1, 0));
         refuses("P32 61 long", ARGUMENT, () -> x.page(0, 1, 61));
         same("P32 nothing happened", 1, x.locked(0, 3));
-        LeadRoom y = cast("aa bb");
+        CountedRoom y = cast("aa bb");
         y.lock(0, 1);
         y.page(0, 2, 1);
         same("P32 what it has stays", 2, y.locked(0, 0));
@@ -54,7 +54,7 @@ public final class PagesTest extends Checked {
 
     private static void fitOfOneColumn() {
         // story 0 has parts of 2 and 1 lines, story 1 of 3 and 2
-        LeadRoom x = cast("aa bb / cc", "dd ee ff / gg hh");
+        CountedRoom x = cast("aa bb / cc", "dd ee ff / gg hh");
         int[] longs = {4, 5, 6, 7, 8, 60};
         int[] lines = {NONE, 5, 6, 7, 8, 8};
         int[] firstKeeps = {NONE, 1, 2, 1, 2, 2};
@@ -73,7 +73,7 @@ public final class PagesTest extends Checked {
     }
 
     private static void fitOfTwoColumns() {
-        LeadRoom x = cast("aa bb / cc", "dd ee ff / gg hh");
+        CountedRoom x = cast("aa bb / cc", "dd ee ff / gg hh");
         x.page(0, 2, 5);
         same("P33 all", 8, x.fit(0, 3));
         same("P34 column of the first", 0, x.fits(0, 3, 0, false));
@@ -89,7 +89,7 @@ public final class PagesTest extends Checked {
     }
 
     private static void fitTies() {
-        LeadRoom x = cast("aa / bb", "cc / dd", "ee / ff");
+        CountedRoom x = cast("aa / bb", "cc / dd", "ee / ff");
         x.page(0, 1, 3);
         same("P33 three", 3, x.fit(0, 3));
         same("P34 the first keeps the most", 2, x.fits(0, 3, 0, true));
@@ -107,7 +107,7 @@ public final class PagesTest extends Checked {
         same("P33 all six", 6, x.fit(0, 7));
         same("P34 the second's column is least", 0, x.fits(0, 7, 1, false));
         same("P34 the third's is the next", 1, x.fits(0, 7, 2, false));
-        LeadRoom y = cast("aa bb cc / dd", "aa / bb", "aa bb / cc");
+        CountedRoom y = cast("aa bb cc / dd", "aa / bb", "aa bb / cc");
         // 4, 2 and 3 lines; 5 long: 0 0 1 has 3 1 (or 4 1) and 3: 8; 0 1 1 has 4 and 5: 9; 0 1 0 has 5 and 2
         y.page(0, 2, 5);
         same("P33 nine", 9, y.fit(0, 7));
@@ -116,7 +116,7 @@ public final class PagesTest extends Checked {
     }
 
     private static void fitNone() {
-        LeadRoom x = cast("aa bb", "cc dd");
+        CountedRoom x = cast("aa bb", "cc dd");
         x.page(0, 1, 3);
         same("P33 none", NONE, x.fit(0, 3));
         same("P34 no column", NONE, x.fits(0, 3, 0, false));
@@ -127,7 +127,7 @@ public final class PagesTest extends Checked {
     }
 
     private static void fitOfFour() {
-        LeadRoom x = cast("aa", "bb bb", "cc cc cc", "dd dd dd dd", "ee");
+        CountedRoom x = cast("aa", "bb bb", "cc cc cc", "dd dd dd dd", "ee");
         x.page(0, 3, 4);
         same("P33 four", 10, x.fit(0, 15));
         // 4 has to be alone; 1 2 in one and 3 in another one, or 1 3 and 2: the first is 0 0 1 2
@@ -140,7 +140,7 @@ public final class PagesTest extends Checked {
     }
 
     private static void fitRefuses() {
-        LeadRoom x = cast("aa bb", "cc dd");
+        CountedRoom x = cast("aa bb", "cc dd");
         Checks.story(x, 0, 0, "ee / ff");
         refuses("P33 page 6", INDEX, () -> x.fit(6, 0));
         refuses("P33 page -1", INDEX, () -> x.fit(-1, 1));
@@ -156,7 +156,7 @@ public final class PagesTest extends Checked {
         x.give(11, 0);
         x.minutes(1);
         same("P33 set", 2, x.fit(0, 4));
-        LeadRoom y = new LeadRoom();
+        CountedRoom y = new CountedRoom();
         refuses("P33 without stories", INDEX, () -> y.fit(0, 1));
         refuses("P33 none without stories", ARGUMENT, () -> y.fit(0, 0));
         for (int i = 0; i < 20; i++) {
@@ -168,7 +168,7 @@ public final class PagesTest extends Checked {
     }
 
     private static void otherStoriesNotSet() {
-        LeadRoom x = Rooms.singles("aa", "bb", "cc");
+        CountedRoom x = Rooms.singles("aa", "bb", "cc");
         x.machine(40, 0);
         x.give(5, 0);
         x.give(10, 0);
@@ -177,7 +177,7 @@ public final class PagesTest extends Checked {
         same("P33 story 2", 1, x.fit(0, 4));
         same("P33 both", 2, x.fit(0, 6));
         refuses("P33 story 0", STATE, () -> x.fit(0, 1));
-        LeadRoom y = Rooms.singles("aa", "bb", "cc");
+        CountedRoom y = Rooms.singles("aa", "bb", "cc");
         y.machine(40, 0);
         y.give(0, 0);
         y.minutes(1);
@@ -189,7 +189,7 @@ public final class PagesTest extends Checked {
     private static void fullPage() {
         String part = Checks.many("aa", 20, " ");
         String copy = part + "/" + part + "/" + part;
-        LeadRoom x = Rooms.singles(copy, copy, copy, "bb");
+        CountedRoom x = Rooms.singles(copy, copy, copy, "bb");
         x.machine(40, 0);
         Rooms.castAll(x);
         same("P17 181 slugs", 181, x.count(4));
@@ -205,7 +205,7 @@ public final class PagesTest extends Checked {
     }
 
     private static void fits() {
-        LeadRoom x = cast("aa bb", "cc dd");
+        CountedRoom x = cast("aa bb", "cc dd");
         Checks.story(x, 0, 0, "ee / ff");
         same("P34 not of the set", NONE, x.fits(0, 1, 1, true));
         same("P34 not of the set, and not set", NONE, x.fits(0, 1, 2, false));
@@ -219,7 +219,7 @@ public final class PagesTest extends Checked {
     }
 
     private static void lock() {
-        LeadRoom x = cast("aa bb / cc", "dd");
+        CountedRoom x = cast("aa bb / cc", "dd");
         same("P35 slugs", 4, x.lock(2, 3));
         for (int i = 0; i < 4; i++) {
             same("P37 in order", i, x.stands(2, NONE, i));
@@ -254,7 +254,7 @@ public final class PagesTest extends Checked {
 
     private static void lockByColumns() {
         // 2, 3 and 1 lines; 3 long: the first and the third in column 0
-        LeadRoom x = cast("aa bb", "cc dd ee", "ff");
+        CountedRoom x = cast("aa bb", "cc dd ee", "ff");
         x.page(0, 2, 3);
         same("P35 six", 6, x.lock(0, 7));
         int[] slugs = {0, 1, 5, 2, 3, 4};
@@ -264,7 +264,7 @@ public final class PagesTest extends Checked {
     }
 
     private static void lockOfPartsKept() {
-        LeadRoom x = cast("aa bb / cc / dd", "ee");
+        CountedRoom x = cast("aa bb / cc / dd", "ee");
         x.page(0, 1, 4);
         x.pie(3);
         same("P35 what it does not keep need not be right", 4, x.lock(0, 3));
@@ -275,7 +275,7 @@ public final class PagesTest extends Checked {
     }
 
     private static void lockNotRight() {
-        LeadRoom x = cast("aa bb", "cc");
+        CountedRoom x = cast("aa bb", "cc");
         x.slip(1, 0, 25);
         same("P35 a wrong one", NONE, x.lock(0, 1));
         same("P35 another story", 1, x.lock(0, 2));
@@ -292,7 +292,7 @@ public final class PagesTest extends Checked {
     }
 
     private static void late() {
-        LeadRoom x = cast("aa bb");
+        CountedRoom x = cast("aa bb");
         Checks.style(x, 2, "measure 10; space 1 40; close 0 at 9; close 1 at 3; close 1 at 4; close 3 at 600");
         Checks.style(x, 9, "close 0 at 5");
         x.lock(0, 1);
@@ -316,7 +316,7 @@ public final class PagesTest extends Checked {
     }
 
     private static void locked() {
-        LeadRoom x = new LeadRoom();
+        CountedRoom x = new CountedRoom();
         refuses("P36 page 6", INDEX, () -> x.locked(6, 9));
         refuses("P36 page -1", INDEX, () -> x.locked(-1, 0));
         refuses("P36 what 5", NO_ELEMENT, () -> x.locked(0, 5));
@@ -324,7 +324,7 @@ public final class PagesTest extends Checked {
     }
 
     private static void editions() {
-        LeadRoom x = cast("aa bb", "cc");
+        CountedRoom x = cast("aa bb", "cc");
         x.lock(0, 1);
         x.lock(5, 2);
         same("P38 the first", 0, x.edition());
@@ -344,7 +344,7 @@ public final class PagesTest extends Checked {
     }
 
     private static void eightEditions() {
-        LeadRoom x = new LeadRoom();
+        CountedRoom x = new CountedRoom();
         for (int i = 0; i < 8; i++) {
             same("P38 number", i, x.edition());
         }
@@ -355,7 +355,7 @@ public final class PagesTest extends Checked {
     }
 
     private static void changed() {
-        LeadRoom x = cast("aa bb cc", "dd", "ee ff");
+        CountedRoom x = cast("aa bb cc", "dd", "ee ff");
         x.edition();
         x.lock(0, 3);
         x.edition();

@@ -25,8 +25,8 @@ public final class PlansTest extends Checked {
         Checks.finish("PlansTest");
     }
 
-    private static LeadRoom singles(int machines) {
-        LeadRoom x = Rooms.singles();
+    private static CountedRoom singles(int machines) {
+        CountedRoom x = Rooms.singles();
         for (int i = 0; i < machines; i++) {
             x.machine(40, 0);
         }
@@ -38,7 +38,7 @@ public final class PlansTest extends Checked {
     }
 
     private static void leastOfNothing() {
-        LeadRoom x = Rooms.singles();
+        CountedRoom x = Rooms.singles();
         same("P40 no part", 0, x.least());
         Checks.story(x, 0, 0, "aaa");
         same("P40 a part without best", 0, x.least());
@@ -53,25 +53,25 @@ public final class PlansTest extends Checked {
     }
 
     private static void leastOfOne() {
-        LeadRoom x = singles(1);
+        CountedRoom x = singles(1);
         Checks.story(x, 0, 1, words(3));
         same("P40 ends at 3, due 1", 2, x.least());
         x.minutes(4);
         same("P40 ends at 7", 6, x.least());
         Checks.story(x, 0, 600, words(2));
         same("P40 another one that is never late", 6, x.least());
-        LeadRoom y = singles(1);
+        CountedRoom y = singles(1);
         Checks.story(y, 0, 3, words(3));
         same("P40 just at its due", 0, y.least());
     }
 
     private static void leastOrder() {
-        LeadRoom x = singles(1);
+        CountedRoom x = singles(1);
         Checks.story(x, 0, 3, words(3));
         Checks.story(x, 0, 1, words(1));
         same("P40 the second one first", 1, x.least());
         // the earliest due first is not the least: 5 lines due 5 and 1 line due 6, 1 line due 6
-        LeadRoom y = singles(1);
+        CountedRoom y = singles(1);
         Checks.story(y, 0, 2, words(5));
         Checks.story(y, 0, 3, words(1));
         Checks.story(y, 0, 3, words(1));
@@ -80,7 +80,7 @@ public final class PlansTest extends Checked {
     }
 
     private static void leastMachines() {
-        LeadRoom x = singles(2);
+        CountedRoom x = singles(2);
         Checks.story(x, 0, 0, words(4) + "/" + words(3) + "/" + words(2) + "/" + words(1));
         // 1 and 2, then 3 and 4: 1 2 4 6, or 1 and 3: 1 4 2 6: 13
         same("P40 two machines", 13, x.least());
@@ -96,7 +96,7 @@ public final class PlansTest extends Checked {
     }
 
     private static void leastQueues() {
-        LeadRoom x = singles(1);
+        CountedRoom x = singles(1);
         Checks.story(x, 0, 0, words(5));
         Checks.story(x, 0, 3, words(3));
         Checks.story(x, 0, 1, words(1));
@@ -108,7 +108,7 @@ public final class PlansTest extends Checked {
         same("P40 behind none", 11, x.least());
         x.minutes(1);
         same("P40 a minute later", 13, x.least());
-        LeadRoom y = singles(2);
+        CountedRoom y = singles(2);
         Checks.story(y, 0, 0, "aaa");
         Checks.story(y, 0, 0, words(2));
         Checks.story(y, 0, 0, words(3));
@@ -118,7 +118,7 @@ public final class PlansTest extends Checked {
         same("P40 by the other machine", 3, y.least());
         y.broken(1, true);
         same("P40 behind 2", 5, y.least());
-        LeadRoom z = singles(1);
+        CountedRoom z = singles(1);
         Checks.story(z, 0, 0, words(3));
         Rooms.castAll(z);
         z.pie(0);
@@ -130,7 +130,7 @@ public final class PlansTest extends Checked {
     }
 
     private static void leastFirstFive() {
-        LeadRoom x = singles(1);
+        CountedRoom x = singles(1);
         Checks.story(x, 0, 0, "aa/aaa/aa/aa/aa");
         Checks.story(x, 0, 0, "aa/aa");
         same("P40 five of six: 1 2 3 4 5", 15, x.least());
@@ -141,14 +141,14 @@ public final class PlansTest extends Checked {
         x.give(2, 0);
         // 3 to 6, of four parts
         same("P40 four of them", 18, x.least());
-        LeadRoom y = singles(1);
+        CountedRoom y = singles(1);
         Checks.story(y, 0, 0, words(9) + "/" + words(9) + "/" + words(9) + "/" + words(9) + "/" + words(9));
         Checks.story(y, 0, 0, "aa");
         same("P40 the first ones by numbers, not the shortest", 9 * 15, y.least());
     }
 
     private static void leastByTheStyleOfNow() {
-        LeadRoom x = singles(1);
+        CountedRoom x = singles(1);
         Checks.story(x, 0, 0, words(4));
         Checks.style(x, 1, "measure 400; space 1 40");
         same("P40 four lines", 4, x.least());
@@ -157,7 +157,7 @@ public final class PlansTest extends Checked {
     }
 
     private static void ahead() {
-        LeadRoom x = singles(2);
+        CountedRoom x = singles(2);
         same("P41 no job", 0, x.ahead(NONE));
         same("P41 no job without a machine", 0, x.ahead(0));
         Checks.story(x, 0, 0, words(3));
@@ -180,7 +180,7 @@ public final class PlansTest extends Checked {
 
 
     private static void aheadWaits() {
-        LeadRoom x = Rooms.singles("aa aa aa", "aaa");
+        CountedRoom x = Rooms.singles("aa aa aa", "aaa");
         x.machine(2, 1);
         x.give(0, 0);
         same("P41 it waits twice", 5, x.ahead(NONE));
@@ -196,7 +196,7 @@ public final class PlansTest extends Checked {
 
     /** What was cast ahead of the question counts: of its own MACHINE, in the last minutes, in its FACE. */
     private static void aheadOfWhatWasCast() {
-        LeadRoom x = Rooms.singles("aa", "aa", "bb");
+        CountedRoom x = Rooms.singles("aa", "aa", "bb");
         x.machine(2, 3);
         x.machine(2, 3);
         x.give(0, 1);
@@ -207,7 +207,7 @@ public final class PlansTest extends Checked {
         same("P41 without the other one", 5, x.ahead(0) == NONE ? 5 : 0);
         x.minutes(4);
         same("P19 so it is", 5, x.slug(2, 2));
-        LeadRoom y = new LeadRoom();
+        CountedRoom y = new CountedRoom();
         for (int sign = 0; sign < 27; sign++) {
             y.width(1, sign, 5);
         }
@@ -233,7 +233,7 @@ public final class PlansTest extends Checked {
 
     /** A question leaves nothing behind for the next one. */
     private static void aheadAgain() {
-        LeadRoom x = singles(2);
+        CountedRoom x = singles(2);
         x.image();
         Checks.story(x, 0, 0, words(3));
         x.give(0, 0);
@@ -251,7 +251,7 @@ public final class PlansTest extends Checked {
     }
 
     private static void aheadOfLastMinutes() {
-        LeadRoom x = singles(1);
+        CountedRoom x = singles(1);
         Checks.story(x, 0, 0, words(2) + "/" + words(1));
         for (int i = 0; i < 4; i++) {
             x.minutes(120);
@@ -263,7 +263,7 @@ public final class PlansTest extends Checked {
         same("P41 three lines", NONE, x.ahead(NONE));
         x.minutes(120);
         same("P41 at the end", NONE, x.ahead(NONE));
-        LeadRoom y = singles(1);
+        CountedRoom y = singles(1);
         Checks.story(y, 0, 0, words(4));
         Checks.style(y, 2, "measure 400; space 1 40");
         y.give(0, 0);
@@ -275,7 +275,7 @@ public final class PlansTest extends Checked {
     }
 
     private static void aheadChangesNothing() {
-        LeadRoom x = singles(2);
+        CountedRoom x = singles(2);
         Checks.story(x, 0, 0, words(3));
         x.give(0, 0);
         x.ahead(0);
@@ -288,8 +288,8 @@ public final class PlansTest extends Checked {
         same("P41 its job is there", 1, x.runs(0, 0));
     }
 
-    private static LeadRoom paid(String rules, int due, int words) {
-        LeadRoom x = Rooms.singles();
+    private static CountedRoom paid(String rules, int due, int words) {
+        CountedRoom x = Rooms.singles();
         Checks.style(x, 0, "measure 10; space 1 40;" + rules);
         Checks.story(x, 0, due, words(words));
         x.machine(40, 0);
@@ -298,7 +298,7 @@ public final class PlansTest extends Checked {
     }
 
     private static void pay() {
-        LeadRoom x = paid("pay 15", 0, 3);
+        CountedRoom x = paid("pay 15", 0, 3);
         same("P42 three times 2 letters", 9, x.pay(0, 0, 600));
         x.machine(40, 0);
         same("P42 another machine", 0, x.pay(1, 0, 600));
@@ -316,7 +316,7 @@ public final class PlansTest extends Checked {
         same("P42 by its bits", 0, paid("pay 10 if bits > 3", 0, 3).pay(0, 0, 600));
         same("P42 by its due", 6, paid("pay 10 if due > 6", 7, 3).pay(0, 0, 600));
         same("P42 by its letters", 6, paid("pay 10 if letters > 1 and letters < 3", 0, 3).pay(0, 0, 600));
-        LeadRoom y = Rooms.pairs(9, 0, "abcd-ab cd");
+        CountedRoom y = Rooms.pairs(9, 0, "abcd-ab cd");
         Checks.style(y, 0, "measure 20; space 2 6; pay 10");
         Rooms.castAll(y);
         same("P42 a - is a letter, too, a blank is not", 9, y.pay(0, 0, 600));
@@ -336,7 +336,7 @@ public final class PlansTest extends Checked {
     }
 
     private static void payMinutes() {
-        LeadRoom x = paid("pay 50", 0, 5);
+        CountedRoom x = paid("pay 50", 0, 5);
         same("P42 both minutes, too", 30, x.pay(0, 2, 4));
         same("P42 one minute", 10, x.pay(0, 5, 5));
         same("P42 from behind to ahead", 0, x.pay(0, 4, 2));
@@ -345,7 +345,7 @@ public final class PlansTest extends Checked {
     }
 
     private static void payByTheStyleOfItsMinute() {
-        LeadRoom x = Rooms.singles(words(3));
+        CountedRoom x = Rooms.singles(words(3));
         Checks.style(x, 2, "measure 10; space 1 40; pay 20");
         x.machine(40, 0);
         x.give(0, 0);
@@ -357,11 +357,11 @@ public final class PlansTest extends Checked {
     }
 
     private static void payOfCorrected() {
-        LeadRoom x = paid("pay 10; pay 100 if corrected", 0, 3);
+        CountedRoom x = paid("pay 10; pay 100 if corrected", 0, 3);
         Checks.correct(x, 0, 1, 0, "bb");
         x.minutes(1);
         same("P42 three and one corrected", 26, x.pay(0, 0, 600));
-        LeadRoom y = Rooms.pairs(9, 0, "ab cd ef");
+        CountedRoom y = Rooms.pairs(9, 0, "ab cd ef");
         Checks.style(y, 0, "measure 20; space 2 6; pay 10; free if bits > 3");
         Rooms.castAll(y);
         same("P42 three bits", 6, y.pay(0, 0, 600));
@@ -371,7 +371,7 @@ public final class PlansTest extends Checked {
 
     /** What a SLUG is stays with it, and does not go over to a PART that is asked next. */
     private static void payThenRule() {
-        LeadRoom x = paid("pay 10 if corrected; measure 20 if corrected; measure 30 if letters > 0; measure 40 if machine < 9",
+        CountedRoom x = paid("pay 10 if corrected; measure 20 if corrected; measure 30 if letters > 0; measure 40 if machine < 9",
             0, 2);
         Checks.correct(x, 0, 1, 0, "bb");
         x.minutes(1);

@@ -15,7 +15,7 @@ public final class ReadersTest extends Checked {
     }
 
     private static void slip() {
-        LeadRoom x = Rooms.pairs(9, 0, "ab cd ef");
+        CountedRoom x = Rooms.pairs(9, 0, "ab cd ef");
         Rooms.castAll(x);
         same("P27 the same letter", false, x.slip(0, 0, 0));
         same("P19 not wrong", 0, x.slug(0, 8));
@@ -42,7 +42,7 @@ public final class ReadersTest extends Checked {
     }
 
     private static void slipOfAHyphen() {
-        LeadRoom x = Rooms.pairs(9, 0, "abcd-ef gh");
+        CountedRoom x = Rooms.pairs(9, 0, "abcd-ef gh");
         Rooms.castAll(x);
         same("P20 it says", "abcd-", Checks.said(x, 0));
         same("P27 the last letter", true, x.slip(0, 3, 0));
@@ -53,7 +53,7 @@ public final class ReadersTest extends Checked {
     }
 
     private static void slipOfThoseThatLieNowhere() {
-        LeadRoom x = Rooms.pairs(9, 0, "ab cd ef");
+        CountedRoom x = Rooms.pairs(9, 0, "ab cd ef");
         Rooms.castAll(x);
         x.pie(0);
         same("P27 a pied one", true, x.slip(0, 0, 25));
@@ -64,7 +64,7 @@ public final class ReadersTest extends Checked {
     }
 
     private static void read() {
-        LeadRoom x = Rooms.pairs(9, 0, "ab cd ef");
+        CountedRoom x = Rooms.pairs(9, 0, "ab cd ef");
         Rooms.castAll(x);
         same("P28 reader 0", true, x.read(0, 0));
         same("P28 it did", false, x.read(0, 0));
@@ -80,7 +80,7 @@ public final class ReadersTest extends Checked {
     }
 
     private static void proof() {
-        LeadRoom x = Rooms.singles("aa bb cc dd ee ff gg hh ii jj");
+        CountedRoom x = Rooms.singles("aa bb cc dd ee ff gg hh ii jj");
         x.machine(40, 0);
         Rooms.castAll(x);
         same("P29 ten lie", 10, x.count(5));
@@ -111,7 +111,7 @@ public final class ReadersTest extends Checked {
     }
 
     private static void proofOfWrongOnes() {
-        LeadRoom x = Rooms.singles("aa bb cc dd ee ff gg hh");
+        CountedRoom x = Rooms.singles("aa bb cc dd ee ff gg hh");
         x.machine(40, 0);
         Rooms.castAll(x);
         for (int slug = 0; slug < 5; slug++) {
@@ -134,7 +134,7 @@ public final class ReadersTest extends Checked {
     }
 
     private static void carry() {
-        LeadRoom x = Rooms.pairs(9, 0, "ab cd ef");
+        CountedRoom x = Rooms.pairs(9, 0, "ab cd ef");
         x.minutes(3);
         x.give(0, 0);
         x.minutes(4);
@@ -155,7 +155,7 @@ public final class ReadersTest extends Checked {
     }
 
     private static void twoHundredTellings() {
-        LeadRoom x = Rooms.pairs(9, 0, "ab cd ef");
+        CountedRoom x = Rooms.pairs(9, 0, "ab cd ef");
         Rooms.castAll(x);
         for (int i = 1; i <= 200; i++) {
             same("P30 so many", i, x.carry(0, 3, 1));
@@ -168,7 +168,7 @@ public final class ReadersTest extends Checked {
     }
 
     private static void where() {
-        LeadRoom x = Rooms.pairs(9, 0, "ab cd ef");
+        CountedRoom x = Rooms.pairs(9, 0, "ab cd ef");
         Rooms.castAll(x);
         same("P31 none told", NONE, x.where(0, 600, 600));
         x.minutes(8);
@@ -203,7 +203,7 @@ public final class ReadersTest extends Checked {
     }
 
     private static void whereRefuses() {
-        LeadRoom x = Rooms.pairs(9, 0, "ab cd ef");
+        CountedRoom x = Rooms.pairs(9, 0, "ab cd ef");
         Rooms.castAll(x);
         refuses("P31 slug 2", INDEX, () -> x.where(2, 0, 0));
         refuses("P31 slug -1", INDEX, () -> x.where(-1, 0, 0));

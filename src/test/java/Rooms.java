@@ -4,8 +4,8 @@ final class Rooms {
     }
 
     /** Two WORDS of two letters make a LINE. */
-    static LeadRoom pairs(int n, int back, String... copies) {
-        LeadRoom x = new LeadRoom();
+    static CountedRoom pairs(int n, int back, String... copies) {
+        CountedRoom x = new CountedRoom();
         Checks.style(x, 0, "measure 20; space 2 6");
         for (String copy : copies) {
             Checks.story(x, 0, 0, copy);
@@ -15,8 +15,13 @@ final class Rooms {
     }
 
     /** Each WORD of two letters is a LINE of its own, for all letters are 5 wide, and nothing more fits in 10. */
-    static LeadRoom singles(String... copies) {
-        LeadRoom x = new LeadRoom();
+    static CountedRoom singles(String... copies) {
+        CountedRoom x = new CountedRoom();
+        singles(x, copies);
+        return x;
+    }
+
+    static void singles(CountedRoom x, String... copies) {
         for (int sign = 0; sign < 27; sign++) {
             x.width(0, sign, 5);
             x.width(1, sign, 5);
@@ -25,11 +30,10 @@ final class Rooms {
         for (String copy : copies) {
             Checks.story(x, 0, 0, copy);
         }
-        return x;
     }
 
     /** All PARTS that there are are given to the first MACHINE, and cast. */
-    static void castAll(LeadRoom x) {
+    static void castAll(CountedRoom x) {
         for (int part = 0; part < 5 * x.count(1); part++) {
             try {
                 x.give(part, 0);

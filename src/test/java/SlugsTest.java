@@ -24,7 +24,7 @@ public final class SlugsTest extends Checked {
     }
 
     private static void pie() {
-        LeadRoom x = Rooms.pairs(9, 0, "ab cd ef");
+        CountedRoom x = Rooms.pairs(9, 0, "ab cd ef");
         Rooms.castAll(x);
         same("P23 pied", true, x.pie(1));
         same("P23 it lies nowhere", false, x.pie(1));
@@ -44,14 +44,14 @@ public final class SlugsTest extends Checked {
     }
 
     /** Pies a SLUG that went to the POT. */
-    private static boolean potOf(LeadRoom x) {
+    private static boolean potOf(CountedRoom x) {
         Checks.correct(x, 0, 2, 0, "gh");
         same("P26 it went to the pot", 2, x.slug(2, 4));
         return x.pie(2);
     }
 
     private static void change() {
-        LeadRoom x = Rooms.pairs(9, 0, "ab cd ef gh ij");
+        CountedRoom x = Rooms.pairs(9, 0, "ab cd ef gh ij");
         Rooms.castAll(x);
         same("P24 changed", true, x.change(0, 2));
         same("P21 the third in the first place", 2, x.lies(0, 0));
@@ -71,7 +71,7 @@ public final class SlugsTest extends Checked {
     }
 
     private static void changeOfTwoParts() {
-        LeadRoom x = Rooms.pairs(9, 0, "ab cd ef", "gh ij");
+        CountedRoom x = Rooms.pairs(9, 0, "ab cd ef", "gh ij");
         Rooms.castAll(x);
         same("P24 changed", true, x.change(1, 2));
         same("P19 the part where it lies", 5, x.slug(1, 6));
@@ -90,7 +90,7 @@ public final class SlugsTest extends Checked {
     }
 
     private static void again() {
-        LeadRoom x = Rooms.pairs(9, 0, "ab cd ef gh ij");
+        CountedRoom x = Rooms.pairs(9, 0, "ab cd ef gh ij");
         x.machine(9, 0);
         Rooms.castAll(x);
         x.pie(1);
@@ -112,13 +112,13 @@ public final class SlugsTest extends Checked {
     }
 
     private static void againWhatLies() {
-        LeadRoom x = Rooms.pairs(9, 0, "ab cd ef gh ij");
+        CountedRoom x = Rooms.pairs(9, 0, "ab cd ef gh ij");
         Rooms.castAll(x);
         same("P25 a slug lies there", NONE, x.again(0, 1, 0));
         same("P25 nothing happens", 0, x.count(12));
         x.slip(1, 0, 0);
         same("P25 also a wrong one", NONE, x.again(0, 1, 0));
-        LeadRoom y = Rooms.pairs(9, 0, "ab cd ef gh ij");
+        CountedRoom y = Rooms.pairs(9, 0, "ab cd ef gh ij");
         y.give(0, 0);
         y.minutes(1);
         same("P25 a line that is still to be cast", 2, y.again(0, 2, 0));
@@ -128,7 +128,7 @@ public final class SlugsTest extends Checked {
     }
 
     private static void againRefuses() {
-        LeadRoom x = Rooms.pairs(9, 0, "ab cd ef gh ij", "kl");
+        CountedRoom x = Rooms.pairs(9, 0, "ab cd ef gh ij", "kl");
         refuses("P25 no part", INDEX, () -> x.again(1, 0, 0));
         refuses("P25 no machine, ahead of not set", INDEX, () -> x.again(0, 0, 1));
         refuses("P25 machine -1", INDEX, () -> x.again(0, 0, -1));
@@ -141,7 +141,7 @@ public final class SlugsTest extends Checked {
     }
 
     private static void againThirty() {
-        LeadRoom x = Rooms.pairs(9, 0, "ab cd ef gh ij");
+        CountedRoom x = Rooms.pairs(9, 0, "ab cd ef gh ij");
         Rooms.castAll(x);
         x.pie(2);
         for (int i = 1; i <= 30; i++) {
@@ -160,7 +160,7 @@ public final class SlugsTest extends Checked {
     }
 
     private static void correctNotSet() {
-        LeadRoom x = Rooms.pairs(9, 0, "ab cd-ef gh");
+        CountedRoom x = Rooms.pairs(9, 0, "ab cd-ef gh");
         same("P26 no line", 0, Checks.correct(x, 0, 1, 0, " x-y-z "));
         same("P8 words", 3, x.part(0, 0));
         same("P8 pieces", 5, x.part(0, 1));
@@ -177,7 +177,7 @@ public final class SlugsTest extends Checked {
     }
 
     private static void correctOneLine() {
-        LeadRoom x = Rooms.pairs(9, 0, "ab cd ef gh ij kl");
+        CountedRoom x = Rooms.pairs(9, 0, "ab cd ef gh ij kl");
         x.machine(9, 0);
         Rooms.castAll(x);
         same("P26 one line", 1, Checks.correct(x, 0, 2, 1, "xy"));
@@ -205,7 +205,7 @@ public final class SlugsTest extends Checked {
     }
 
     private static void correctMovesPlaces() {
-        LeadRoom x = Rooms.pairs(9, 0, "ab cd ef gh ij kl");
+        CountedRoom x = Rooms.pairs(9, 0, "ab cd ef gh ij kl");
         Rooms.castAll(x);
         x.change(0, 2);
         // abcd- | ab cd | ef gh | ij kl
@@ -225,7 +225,7 @@ public final class SlugsTest extends Checked {
     }
 
     private static void correctWithFewerLines() {
-        LeadRoom x = Rooms.pairs(9, 0, "abcd-ab cd ef gh ij kl");
+        CountedRoom x = Rooms.pairs(9, 0, "abcd-ab cd ef gh ij kl");
         Rooms.castAll(x);
         same("P26 nothing is to be cast", 0, Checks.correct(x, 0, 0, 0, "ab"));
         same("P26 no job", 0, x.count(12));
@@ -239,7 +239,7 @@ public final class SlugsTest extends Checked {
     }
 
     private static void correctWithoutBest() {
-        LeadRoom x = Rooms.pairs(9, 0, "ab cd ef gh ij kl");
+        CountedRoom x = Rooms.pairs(9, 0, "ab cd ef gh ij kl");
         Rooms.castAll(x);
         // 24 wide, of 20
         same("P26 none", NONE, Checks.correct(x, 0, 2, 0, "abcdef"));
@@ -255,7 +255,7 @@ public final class SlugsTest extends Checked {
     }
 
     private static void correctFromItsLineOn() {
-        LeadRoom x = Rooms.pairs(9, 0, "ab cd ef gh ij kl mn");
+        CountedRoom x = Rooms.pairs(9, 0, "ab cd ef gh ij kl mn");
         Rooms.castAll(x);
         // the second line is opened: efghi | gh ij | kl mn
         same("P26 three lines", 3, Checks.correct(x, 0, 2, 0, "efghi"));
@@ -269,7 +269,7 @@ public final class SlugsTest extends Checked {
         same("P22 all right", NONE, x.judge(0));
         same("P48 three corrected", 3, x.count(8));
         // a word that goes on over two lines: the first one of them is opened
-        LeadRoom y = Rooms.pairs(9, 0, "ab cd efgh-ij kl mn op");
+        CountedRoom y = Rooms.pairs(9, 0, "ab cd efgh-ij kl mn op");
         Rooms.castAll(y);
         same("P11 ends", "1 2 4 6", Checks.ends(y, 0));
         same("P26 both lines", 2, Checks.correct(y, 0, 2, 0, "efgi-jj"));
@@ -285,7 +285,7 @@ public final class SlugsTest extends Checked {
     }
 
     private static void correctSameWord() {
-        LeadRoom x = Rooms.pairs(9, 0, "ab cd ef gh ij kl");
+        CountedRoom x = Rooms.pairs(9, 0, "ab cd ef gh ij kl");
         Rooms.castAll(x);
         same("P26 the same word", 0, Checks.correct(x, 0, 0, 0, "ab"));
         same("P21 all stay", 0, x.lies(0, 0));
@@ -297,7 +297,7 @@ public final class SlugsTest extends Checked {
     }
 
     private static void correctByTheStyleOfNow() {
-        LeadRoom x = Rooms.pairs(40, 0, "ab cd ef gh ij kl");
+        CountedRoom x = Rooms.pairs(40, 0, "ab cd ef gh ij kl");
         Rooms.castAll(x);
         Checks.style(x, x.count(0), "measure 400; space 1 40");
         // the first line stays as it is, all that is behind is one line
@@ -308,7 +308,7 @@ public final class SlugsTest extends Checked {
         x.minutes(1);
         same("P20 it says", "xy gh ij kl", Checks.said(x, 3));
         // the words of the new copy count: seven of them make another measure
-        LeadRoom y = Rooms.pairs(40, 0, "ab cd-ef");
+        CountedRoom y = Rooms.pairs(40, 0, "ab cd-ef");
         Checks.style(y, 0, "measure 400; measure 26 if bits > 3");
         Rooms.castAll(y);
         same("P8 one line", 1, y.part(0, 5));
@@ -317,7 +317,7 @@ public final class SlugsTest extends Checked {
     }
 
     private static void correctWithGaps() {
-        LeadRoom x = Rooms.pairs(9, 0, "ab cd ef gh ij kl");
+        CountedRoom x = Rooms.pairs(9, 0, "ab cd ef gh ij kl");
         Rooms.castAll(x);
         x.pie(2);
         x.slip(0, 0, 25);
@@ -331,7 +331,7 @@ public final class SlugsTest extends Checked {
     }
 
     private static void correctRefuses() {
-        LeadRoom x = Rooms.pairs(9, 0, "ab cd", "ef");
+        CountedRoom x = Rooms.pairs(9, 0, "ab cd", "ef");
         refuses("P26 no part", INDEX, () -> Checks.correct(x, 1, 0, 0, "??"));
         refuses("P26 no word 2", INDEX, () -> Checks.correct(x, 0, 2, 0, "??"));
         refuses("P26 no word -1", INDEX, () -> Checks.correct(x, 0, -1, 0, "??"));
@@ -352,7 +352,7 @@ public final class SlugsTest extends Checked {
     }
 
     private static void jobsInTurn() {
-        LeadRoom x = Rooms.pairs(9, 0, "ab cd ef gh", "ij kl");
+        CountedRoom x = Rooms.pairs(9, 0, "ab cd ef gh", "ij kl");
         Rooms.castAll(x);
         x.pie(2);
         x.again(5, 0, 0);
@@ -378,7 +378,7 @@ public final class SlugsTest extends Checked {
             "ab /", "a?"};
         int[] faults = {0, 2, 3, 2, 0, NONE, NONE, 3, 0, 4, 12, 2, 3, 1};
         for (int i = 0; i < texts.length; i++) {
-            LeadRoom x = Rooms.pairs(9, 0, "ab cd");
+            CountedRoom x = Rooms.pairs(9, 0, "ab cd");
             String text = texts[i];
             if (faults[i] == NONE) {
                 same("P26 '" + text + "'", 0, Checks.correct(x, 0, 0, 0, text));
@@ -387,7 +387,7 @@ public final class SlugsTest extends Checked {
             }
             same("P7 of '" + text + "'", faults[i], x.fault());
         }
-        LeadRoom x = Rooms.pairs(9, 0, Checks.many("a-b", 20, " "));
+        CountedRoom x = Rooms.pairs(9, 0, Checks.many("a-b", 20, " "));
         refuses("P26 41 bits", ARGUMENT, () -> Checks.correct(x, 0, 3, 0, "a-b-c"));
         same("P7 the first letter of the 41st", 4, x.fault());
         same("P26 40 bits", 0, Checks.correct(x, 0, 3, 0, "c-d"));

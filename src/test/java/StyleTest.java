@@ -19,7 +19,7 @@ public final class StyleTest extends Checked {
     }
 
     private static void howManyRules() {
-        LeadRoom x = new LeadRoom();
+        CountedRoom x = new CountedRoom();
         same("P6 empty", 0, Checks.style(x, 0, ""));
         same("P6 blanks", 0, Checks.style(x, 0, "    "));
         same("P6 one", 1, Checks.style(x, 0, "measure 10"));
@@ -40,7 +40,7 @@ public final class StyleTest extends Checked {
     }
 
     private static void refusals() {
-        LeadRoom x = new LeadRoom();
+        CountedRoom x = new CountedRoom();
         Checks.tell(x, "?");
         refuses("P6 minute 601", ARGUMENT, () -> x.style(601));
         same("P7 not read", NONE, x.fault());
@@ -67,7 +67,7 @@ public final class StyleTest extends Checked {
             "free if not head", "free if not(head)", "close 1at2", "space 1 2;space 2 3 ; part 3",
             "free if((late))", "free if not not head"};
         for (String text : texts) {
-            LeadRoom x = new LeadRoom();
+            CountedRoom x = new CountedRoom();
             Checks.tell(x, text);
             int rules = text.length() - text.replace(";", "").length() + 1;
             same("P6 '" + text + "'", rules, x.style(0));
@@ -100,7 +100,7 @@ public final class StyleTest extends Checked {
             6, 5, 13, 8, 0, 0};
         same("P7 as many faults as texts", texts.length, faults.length);
         for (int i = 0; i < texts.length; i++) {
-            LeadRoom x = new LeadRoom();
+            CountedRoom x = new CountedRoom();
             Checks.tell(x, texts[i]);
             refuses("P6 '" + texts[i] + "'", ARGUMENT, () -> x.style(0));
             same("P7 of '" + texts[i] + "'", faults[i], x.fault());
@@ -109,7 +109,7 @@ public final class StyleTest extends Checked {
     }
 
     private static void depths() {
-        LeadRoom x = new LeadRoom();
+        CountedRoom x = new CountedRoom();
         same("P6 five ( deep", 1, Checks.style(x, 0, "free if (((((head)))))"));
         same("P6 five not deep", 1, Checks.style(x, 0, "free if not not not not not head"));
         same("P6 mixed", 1, Checks.style(x, 0, "free if not(not(not head))"));
@@ -129,7 +129,7 @@ public final class StyleTest extends Checked {
     }
 
     private static void thirteenRules() {
-        LeadRoom x = new LeadRoom();
+        CountedRoom x = new CountedRoom();
         String twelve = Checks.many("fat 1", 12, ";");
         Checks.tell(x, twelve + "; fat 1");
         refuses("P6 thirteen", ARGUMENT, () -> x.style(0));
@@ -148,12 +148,12 @@ public final class StyleTest extends Checked {
             "fat 1 ", "free if not late"};
         for (String text : texts) {
             for (char behind : "a0;)( ?".toCharArray()) {
-                LeadRoom x = new LeadRoom();
+                CountedRoom x = new CountedRoom();
                 Checks.tell(x, text.getBytes(java.nio.charset.StandardCharsets.ISO_8859_1), behind);
                 same("P3 '" + text + "' cut ahead of " + behind, text.isBlank() ? 0 : 1, x.style(0));
             }
         }
-        LeadRoom x = new LeadRoom();
+        CountedRoom x = new CountedRoom();
         Checks.tell(x, "measure 1234");
         x.end(10);
         same("P3 two digits are left", 1, x.style(0));
@@ -168,7 +168,7 @@ public final class StyleTest extends Checked {
     }
 
     private static void fourHundredBytes() {
-        LeadRoom x = new LeadRoom();
+        CountedRoom x = new CountedRoom();
         String long396 = "free if head" + Checks.many(" or head", 48, "");
         same("P6 400 bytes", 1, Checks.style(x, 0, long396 + "    "));
         Checks.tell(x, long396 + " or ");
@@ -193,15 +193,15 @@ public final class StyleTest extends Checked {
         same("P9 not late", 60, x.rule(0, 0, 0));
     }
 
-    private static LeadRoom roomWithParts() {
-        LeadRoom x = new LeadRoom();
+    private static CountedRoom roomWithParts() {
+        CountedRoom x = new CountedRoom();
         Checks.story(x, 0, 10, "ab cd-ef / gh");
         Checks.story(x, 1, 20, "ab-cd-ef");
         return x;
     }
 
     private static void without() {
-        LeadRoom x = roomWithParts();
+        CountedRoom x = roomWithParts();
         int[] usual = {60, 2, 6, 25, 0, NONE};
         for (int what = 0; what < 6; what++) {
             same("P9 without a style", usual[what], x.rule(0, 0, what));
@@ -218,7 +218,7 @@ public final class StyleTest extends Checked {
     }
 
     private static boolean holds(int part, int minute, String condition) {
-        LeadRoom x = roomWithParts();
+        CountedRoom x = roomWithParts();
         Checks.style(x, 0, "measure 50; measure 99 if " + condition);
         return x.rule(part, minute, 0) == 99;
     }
@@ -259,7 +259,7 @@ public final class StyleTest extends Checked {
     }
 
     private static void lastRuleThatHolds() {
-        LeadRoom x = roomWithParts();
+        CountedRoom x = roomWithParts();
         Checks.style(x, 0, "measure 50; measure 60 if head; measure 70 if late; fat 1; fat 2; part 8; part 9;"
             + "space 1 2; space 3 4");
         same("P9 the first alone", 0, x.rule(0, 0, 5));
@@ -277,7 +277,7 @@ public final class StyleTest extends Checked {
     }
 
     private static void minutesOfStyles() {
-        LeadRoom x = roomWithParts();
+        CountedRoom x = roomWithParts();
         Checks.style(x, 5, "measure 51");
         Checks.style(x, 9, "measure 52");
         Checks.style(x, 7, "measure 53");
@@ -298,7 +298,7 @@ public final class StyleTest extends Checked {
     }
 
     private static void ruleRefuses() {
-        LeadRoom x = roomWithParts();
+        CountedRoom x = roomWithParts();
         refuses("P9 part 2", INDEX, () -> x.rule(2, -1, 9));
         refuses("P9 part -1", INDEX, () -> x.rule(-1, 0, 0));
         refuses("P9 minute -1", ARGUMENT, () -> x.rule(0, -1, 9));
