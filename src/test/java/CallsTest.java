@@ -1,5 +1,4 @@
-import com.sun.management.ThreadMXBean;
-import java.lang.management.ManagementFactory;
+import java.lang.reflect.Method;
 import java.util.List;
 
 /**
@@ -9,13 +8,14 @@ import java.util.List;
 public final class CallsTest extends Edges {
     /** A byte is the least that an element takes, and 16 bytes are the least that an object takes. */
     private static final long MOST_BYTES = 7_300_000;
-    private static final ThreadMXBean THREADS = (ThreadMXBean) ManagementFactory.getThreadMXBean();
 
     public static void main(String[] args) {
         lastCallOfEach();
         lastCallChanges();
         sameCallsAgain();
-        dearestCalls();
+        if (allocated() >= 0) {
+            dearestCalls();
+        }
         Checks.finish("CallsTest");
     }
 
@@ -101,8 +101,19 @@ public final class CallsTest extends Edges {
         x.lock(0, 1);
     }
 
+    /** So many bytes this thread has asked for; -1 with a Java that does not tell. */
+    private static long allocated() {
+        try {
+            Object threads = Class.forName("java.lang.management.ManagementFactory").getMethod("getThreadMXBean").invoke(null);
+            Method told = Class.forName("com.sun.management.ThreadMXBean").getMethod("getThreadAllocatedBytes", long.class);
+            return (Long) told.invoke(threads, Thread.currentThread().getId());
+        } catch (ReflectiveOperationException e) {
+            return -1;
+        }
+    }
+
     private static long bytesOf(Scene scene, Whole.Question call) {
-        long before = THREADS.getThreadAllocatedBytes(Thread.currentThread().getId());
+        long before = allocated();
         CountedRoom x = new CountedRoom();
         scene.play(x);
         boolean refused = false;
@@ -115,6 +126,6 @@ public final class CallsTest extends Edges {
             }
         }
         countUpTo(x, CountedRoom.MOST_CALLS);
-        return THREADS.getThreadAllocatedBytes(Thread.currentThread().getId()) - before;
+        return allocated() - before;
     }
 }

@@ -17,6 +17,9 @@ final class Checks {
     static final Class<UnsupportedOperationException> UNSUPPORTED = UnsupportedOperationException.class;
     static final Class<java.util.NoSuchElementException> NO_ELEMENT = java.util.NoSuchElementException.class;
 
+    static final java.util.Set<Class<? extends RuntimeException>> KINDS =
+        java.util.Set.of(INDEX, ARGUMENT, STATE, UNSUPPORTED, NO_ELEMENT);
+
     private static int passed = 0;
     private static int failed = 0;
 
@@ -62,10 +65,10 @@ final class Checks {
         System.out.println("WRONG " + what + ": threw nothing, due is " + kind.getSimpleName());
     }
 
-    /** The machine's own exceptions have a message, and those of the class have none. */
+    /** What the machine throws is of another class, and what the library throws begins there. */
     static boolean isThrownByHand(RuntimeException e) {
         StackTraceElement[] trace = e.getStackTrace();
-        return e.getMessage() == null && trace.length > 0 && trace[0].getClassName().startsWith("LeadRoom");
+        return trace.length > 0 && trace[0].getClassName().startsWith("LeadRoom");
     }
 
     static void tell(CountedRoom room, String text) {

@@ -20,6 +20,7 @@ public final class EdgesOfLinesTest extends Edges {
         fortyLines();
         ties();
         faces();
+        oneBehindAnother();
         narrowest();
         widest();
         Checks.finish("EdgesOfLinesTest");
@@ -270,6 +271,31 @@ public final class EdgesOfLinesTest extends Edges {
         x.width(0, 0, 5);
         same("Part 3: by the WIDTHS of FACE 0 now", NONE, x.best(0, 0));
         same("Part 3: by the WIDTHS of FACE 1 now", 1, x.best(5, 0));
+    }
+
+    /** What is asked of one PART has nothing to do with what was asked of another one ahead of it. */
+    private static void oneBehindAnother() {
+        CountedRoom x = new CountedRoom();
+        Checks.style(x, 0, "measure 20; space 2 6");
+        Checks.story(x, 0, 0, Checks.many("ab", 24, " "));
+        Checks.story(x, 1, 0, "ab cd");
+        Checks.story(x, 0, 0, Checks.many("abcdef", 24, " "));
+        Checks.story(x, 0, 0, "ab cd ef");
+        int[] longest = {12, 11 * 4, 24};
+        int[] two = {1, 0, 2};
+        int[] none = {NONE, NONE, 0};
+        int[] three = {2, 4, 3};
+        for (int round = 0; round < 2; round++) {
+            for (int what = 0; what < 3; what++) {
+                same("P10 best: of 24 PIECES, what " + what, longest[what], x.best(0, what));
+                same("P10 best: of two PIECES, what " + what, two[what], x.best(5, what));
+                same("P10 best: of none behind them, what " + what, none[what], x.best(10, what));
+                same("P10 best: of three PIECES, what " + what, three[what], x.best(15, what));
+            }
+            same("P12 hand: of 24 PIECES", 12, x.hand(0, false));
+            same("P12 hand: of two PIECES", 1, x.hand(5, false));
+            same("P11 ends: of three PIECES", "1 2", Checks.ends(x, 15));
+        }
     }
 
     private static void narrowest() {

@@ -11,6 +11,7 @@ public final class EdgesOfPagesTest extends Edges {
         oneToFourStories();
         lastStories();
         fitsOfTheSet();
+        fivePartsOfEach();
         tiesByColumns();
         tiesByParts();
         moreLinesComeFirst();
@@ -189,6 +190,22 @@ public final class EdgesOfPagesTest extends Edges {
         }
     }
 
+    private static void fivePartsOfEach() {
+        CountedRoom x = cast("ab/ab/ab/ab/ab", "ab/ab/ab/ab/ab", "ab/ab/ab/ab/ab", "ab/ab/ab/ab/ab");
+        same("P33 fit: 20 PARTS of four STORIES", 20, x.fit(0, 15));
+        keepsAre("Part 7: all 20 PARTS", x, 15, 5, 5, 5, 5);
+        same("P35 lock: 20 PARTS", 20, x.lock(0, 15));
+        x.page(0, 1, 19);
+        same("P33 fit: 19 of 20 PARTS", 19, x.fit(0, 15));
+        keepsAre("Part 7: all but the last one", x, 15, 5, 5, 5, 4);
+        x.page(0, 1, 6);
+        keepsAre("Part 7: six PARTS of four STORIES", x, 15, 3, 1, 1, 1);
+        x.page(0, 2, 5);
+        same("P33 fit: ten PARTS in two COLUMNS", 10, x.fit(0, 15));
+        columnsAre("Part 7: three STORIES in the first COLUMN", x, 15, 0, 0, 0, 1);
+        keepsAre("Part 7: three STORIES in the first COLUMN", x, 15, 3, 1, 1, 5);
+    }
+
     private static void tiesByColumns() {
         CountedRoom x = cast("ab", "ab ab", "ab ab ab", "ab ab ab ab");
         x.page(0, 3, 10);
@@ -363,6 +380,14 @@ public final class EdgesOfPagesTest extends Edges {
         for (int page = 1; page < 5; page++) {
             same("Part 7: no close of PAGE " + page, 0, x.locked(page, 2));
         }
+        Checks.style(x, 5, "close 0 at 1;" + Checks.many("fat 1", 10, ";") + ";close 0 at 4");
+        x.lock(0, 1);
+        x.lock(3, 1);
+        same("Part 7: the last close of 12 RULES", 1, x.locked(0, 2));
+        same("Part 7: no close of PAGE 3 in 12 RULES", 0, x.locked(3, 2));
+        Checks.style(x, 5, "close 0 at 3;" + Checks.many("fat 1", 11, ";"));
+        x.lock(0, 1);
+        same("Part 7: the only close is the first of 12 RULES", 2, x.locked(0, 2));
         Checks.style(x, 5, "close 1 at 4");
         x.lock(0, 1);
         x.lock(1, 1);

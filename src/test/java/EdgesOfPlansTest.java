@@ -293,6 +293,18 @@ public final class EdgesOfPlansTest extends Edges {
         for (int i = 0; i < pays.length; i++) {
             same("P42 pay: 2 times " + pays[i], due[i], paid("pay " + pays[i], 1).pay(0, 0, 600));
         }
+        for (int pay = 0; pay <= 40; pay++) {
+            CountedRoom x = new CountedRoom();
+            Checks.style(x, 0, "pay " + pay);
+            Checks.story(x, 0, 0, "a");
+            x.machine(9, 0);
+            x.give(0, 0);
+            x.minutes(1);
+            same("P42 pay: one letter times " + pay, pay / 10, x.pay(0, 0, 600));
+        }
+        same("P42 pay: 24 SLUGS with no pay RULE", 0, paid("fat 9", 24).pay(0, 0, 600));
+        same("P42 pay: 24 SLUGS that are free", 0, paid("pay 9; free if not head", 24).pay(0, 0, 600));
+        same("P42 pay: 24 SLUGS with a pay RULE of 0", 0, paid("pay 0; fat 99", 24).pay(0, 0, 600));
         same("P42 pay: 9 times 2 times 1 by 10, rounded down", 1, paid("pay 1", 9).pay(0, 0, 600));
         same("P42 pay: 10 times 2 times 1 by 10", 2, paid("pay 1", 10).pay(0, 0, 600));
     }

@@ -13,6 +13,7 @@ public final class EdgesOfRowsTest extends Edges {
         checkAtTheEdges();
         noImage();
         imageOfNothing();
+        anewBehindNothing();
         imageTwice();
         imageOfTornRows();
         imageOfEachThing();
@@ -190,6 +191,39 @@ public final class EdgesOfRowsTest extends Edges {
         Checks.style(x, 0, "measure 20");
         Checks.story(x, 0, 0, "aaaaa");
         same("P4 width: 4, as in a new room", 1, x.best(0, 0));
+    }
+
+    /** What comes anew has nothing of what had its number ahead of going back. */
+    private static void anewBehindNothing() {
+        CountedRoom x = new CountedRoom();
+        x.image();
+        Checks.story(x, 0, 0, "ab / cd ef");
+        x.machine(9, 0);
+        x.give(0, 0);
+        x.give(1, 0);
+        x.minutes(2);
+        x.read(0, 0);
+        x.read(1, 0);
+        x.slip(0, 0, 5);
+        x.back();
+        Checks.story(x, 0, 7, "ab");
+        Checks.story(x, 0, 7, "ab");
+        x.machine(9, 0);
+        int[] part = {1, 1, 0, 7, 0, NONE, 0, 0};
+        for (int what = 0; what < 8; what++) {
+            same("P47 back: a new PART, what " + what, part[what], x.part(0, what));
+        }
+        refuses("P47 back: a new PART is not SET", STATE, () -> x.lies(0, 0));
+        refuses("P47 back: a new PART is not SET, judge", STATE, () -> x.judge(0));
+        refuses("P47 back: a new STORY is not SET", STATE, () -> x.fit(0, 1));
+        refuses("P47 back: a new STORY has one PART", INDEX, () -> x.part(1, 0));
+        x.give(5, 0);
+        x.minutes(1);
+        same("P47 back: a new SLUG of the other PART", 5, x.slug(0, 0));
+        same("P8 part: no PLACE of a PART that is not SET is RIGHT", 0, x.part(0, 6));
+        same("P29 proof: nobody marked the new SLUG", 0, x.proof(0) + x.proof(1));
+        same("P19 slug: the new SLUG is not WRONG", 0, x.slug(0, 8));
+        same("P16 give: the new PART was not GIVEN", 1, x.give(0, 0));
     }
 
     private static void imageTwice() {

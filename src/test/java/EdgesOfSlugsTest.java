@@ -26,6 +26,7 @@ public final class EdgesOfSlugsTest extends Edges {
         correctThirty();
         correctWithAJob();
         correctedOnes();
+        correctedIsTheFirst();
         slipEachLetter();
         slipBackAndForth();
         slipLongest();
@@ -474,6 +475,23 @@ public final class EdgesOfSlugsTest extends Edges {
         x.minutes(1);
         same("P19 slug: cast AGAIN it is none", 0, x.slug(4, 7));
         same("P20 says: the new LINE", "yb cd", Checks.said(x, 4));
+    }
+
+    /** A PART may be SET, and none of its LINES be cast: then the first SLUG of all is a CORRECTED one. */
+    private static void correctedIsTheFirst() {
+        CountedRoom x = new CountedRoom();
+        Checks.style(x, 0, Scenes.PAIRS);
+        Checks.story(x, 0, 0, "ab cd");
+        x.machine(9, 0);
+        x.brass(0, 0, 0);
+        x.give(0, 0);
+        x.minutes(1);
+        same("P8 part: SET, and SPIKED", 1, x.part(0, 5));
+        same("P26 correct: one LINE", 1, Checks.correct(x, 0, 0, 0, "xb"));
+        x.minutes(1);
+        same("P19 slug: the first one is CORRECTED", 1, x.slug(0, 7));
+        same("P48 count: one is CORRECTED", 1, x.count(8));
+        same("P48 count: of one SLUG", 1, x.count(4));
     }
 
     private static void slipEachLetter() {

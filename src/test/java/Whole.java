@@ -80,6 +80,9 @@ final class Whole {
         try {
             answer = Long.toString(question.ask(asked));
         } catch (RuntimeException e) {
+            if (!Checks.KINDS.contains(e.getClass()) || !Checks.isThrownByHand(e)) {
+                throw e;
+            }
             answer = e.getClass().getSimpleName();
         }
         answers.add(name + " = " + answer);
