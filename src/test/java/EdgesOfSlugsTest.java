@@ -119,8 +119,6 @@ public final class EdgesOfSlugsTest extends Edges {
         same("Part 4: one is in the POT", 1, x.count(7));
         x.pie(3);
         x.again(0, 0, 0);
-        Checks.story(x, 0, 0, "ij kl");
-        x.change(1, 1);
         x.minutes(1);
         same("Part 4: a PIED one stays PIED", 1, x.slug(3, 4));
         same("Part 4: and one is in the POT still", 1, x.count(7));
