@@ -154,6 +154,9 @@ public final class RefusalsOfMachinesTest extends Edges {
         }
         refused("P21 lies: GIVEN and not SET", STATE, NIGHT, x -> x.lies(10, 0));
         refused("P21 lies: not GIVEN, so not SET", STATE, NIGHT, x -> x.lies(11, 0));
+        for (int place : new int[] {-1, 1, 40, LEAST, MOST}) {
+            refused("P21 lies: PLACE " + place + ", not SET", STATE, NIGHT, x -> x.lies(10, place));
+        }
         for (int place : new int[] {-1, 2, 40, LEAST, MOST}) {
             refused("P21 lies: PLACE " + place + " of two", INDEX, NIGHT, x -> x.lies(0, place));
         }
@@ -210,6 +213,9 @@ public final class RefusalsOfMachinesTest extends Edges {
         }
         refused("P25 again: GIVEN and not SET", STATE, NIGHT, x -> x.again(10, 0, 0));
         refused("P25 again: not GIVEN, so not SET", STATE, NIGHT, x -> x.again(11, 0, 0));
+        for (int place : new int[] {-1, 1, 40, LEAST, MOST}) {
+            refused("P25 again: PLACE " + place + ", not SET", STATE, NIGHT, x -> x.again(11, place, 0));
+        }
         answersAlone("P25 again: a SLUG lies there", NONE, NIGHT, x -> x.again(0, 1, 0));
         answersAlone("P25 again: a WRONG SLUG lies there", NONE, NIGHT, x -> x.again(0, 0, 0));
         answersAlone("P25 again: a SLUG lies there, a BROKEN MACHINE", NONE, NIGHT, x -> x.again(15, 1, 1));
